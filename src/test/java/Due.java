@@ -1,0 +1,38 @@
+/** Counts the answers of a test that are not as due, and tells of each. */
+final class Due {
+    private final String test;
+    private int wrong = 0;
+
+    Due(String test) {
+        this.test = test;
+    }
+
+    void is(String promise, long got, long want) {
+        if (got != want) {
+            wrong++;
+            System.out.println(test + ", promise " + promise + ": answered " + got + ", due is " + want);
+        }
+    }
+
+    /** The LAMPS of THE TOLD ROUND, and nothing behind them. */
+    void round(String promise, LampRound x, int... want) {
+        is(promise + ", how many", x.many(4), want.length);
+        for (int i = 0; i < want.length; i++) {
+            is(promise + ", place " + i, x.at(i), want[i]);
+        }
+        is(promise + ", behind the end", x.at(want.length), -1);
+    }
+
+    /** LINES of the told PROOF, three numbers each, and nothing behind them. */
+    void lines(String promise, LampRound x, int... want) {
+        is(promise + ", how many lines", x.many(3), want.length / 3);
+        for (int i = 0; i < want.length; i++) {
+            is(promise + ", line " + i / 3 + " what " + i % 3, x.shown(i / 3, i % 3), want[i]);
+        }
+    }
+
+    void end() {
+        System.out.println(test + (wrong == 0 ? ": all answers are as due" : ": " + wrong + " answers are not as due"));
+        if (wrong != 0) System.exit(1);
+    }
+}

@@ -1,0 +1,442 @@
+/** Promises 27 to 36. */
+public final class ProofsTest {
+    private static final Due due = new Due("ProofsTest");
+    private static final long ENDLESS = 1L << 62;
+    private static final int NO_LINE = Integer.MIN_VALUE;
+
+    public static void main(String[] args) {
+        price();
+        climb();
+        bound();
+        boundOfMany();
+        taken();
+        prove();
+        proveWithTwins();
+        proveSpent();
+        line();
+        alterAndCut();
+        shown();
+        check();
+        checkPart();
+        checkFewAndMany();
+        checkRing();
+        checkTwins();
+        checkPrices();
+        checkHangsTogetherByTheFirst();
+        due.end();
+    }
+
+    /** Ways 0-1 2, 1-2 3, 2-3 4, 0-3 5, 0-2 5, 1-3 7; rounds of 14, 18 and 20. */
+    private static LampRound square() {
+        LampRound x = new LampRound();
+        x.lane(0, 1, 2);
+        x.lane(1, 2, 3);
+        x.lane(2, 3, 4);
+        x.lane(3, 0, 5);
+        x.lane(0, 2, 6);
+        for (int i = 0; i < 4; i++) x.lamp(i, 0, 0);
+        return x;
+    }
+
+    private static void lines(LampRound x, int... told) {
+        x.cut(0);
+        for (int i = 0; i + 2 < told.length; i += 3) x.line(told[i], told[i + 1], told[i + 2]);
+    }
+
+    private static void price() {
+        LampRound x = new LampRound();
+        due.is("27 none", x.price(0, 0), LampRound.NUMBER);
+        x.lamp(0, 3, 0);
+        due.is("27 below", x.price(-1, 0), LampRound.NUMBER);
+        due.is("27 above", x.price(1, 0), LampRound.NUMBER);
+        due.is("27 too dear", x.price(0, 100001), LampRound.NUMBER);
+        due.is("27 too cheap", x.price(0, -100001), LampRound.NUMBER);
+        due.is("27 refused ones change nothing", x.of(0, 4), 0);
+        due.is("27 dearest", x.price(0, 100000), 1);
+        due.is("27 dearest", x.of(0, 4), 100000);
+        due.is("27 cheapest", x.price(0, -100000), 1);
+        due.is("27 cheapest", x.of(0, 4), -100000);
+        x.dark(0, true);
+        due.is("27 of one that is out", x.price(0, 5), 1);
+        due.is("27 of one that is out", x.of(0, 4), 5);
+    }
+
+    private static void climb() {
+        LampRound x = square();
+        due.is("28 n 0", x.climb(0), LampRound.NUMBER);
+        due.is("28 n 101", x.climb(101), LampRound.NUMBER);
+        due.is("28 n -1", x.climb(-1), LampRound.NUMBER);
+        due.is("28 a step", x.climb(1), 1);
+        int[] prices = {0, 0, 1, -1};
+        for (int l = 0; l < 4; l++) due.is("28 price of " + l, x.of(l, 4), prices[l]);
+        due.is("28 steps that leave the prices count too", x.climb(100), 100);
+        for (int l = 0; l < 4; l++) due.is("28 price of " + l, x.of(l, 4), prices[l]);
+        x.lamp(30, 3, 0);
+        due.is("28 endless", x.climb(7), 0);
+        for (int l = 0; l < 4; l++) due.is("28 endless leaves the price of " + l, x.of(l, 4), prices[l]);
+        x.dark(4, true);
+        x.price(4, 50);
+        x.price(2, 0);
+        x.price(3, 0);
+        due.is("28 without the one that is out", x.climb(1), 1);
+        due.is("28 the price of one that is out stays", x.of(4, 4), 50);
+        due.is("28 the others' don't", x.of(3, 4), -1);
+        LampRound y = new LampRound();
+        due.is("28 STATE", y.climb(1), LampRound.STATE);
+        due.is("28 NUMBER ahead of STATE", y.climb(0), LampRound.NUMBER);
+    }
+
+    private static void bound() {
+        LampRound x = new LampRound();
+        due.is("29 none", x.bound(), -ENDLESS);
+        x.lamp(0, 0, 0);
+        x.lamp(1, 0, 0);
+        due.is("29 two", x.bound(), -ENDLESS);
+        x.lamp(2, 3, 0);
+        due.is("29 endless", x.bound(), ENDLESS);
+        x.lane(0, 1, 7);
+        due.is("29 still endless", x.bound(), ENDLESS);
+        x.lane(1, 2, 9);
+        due.is("29 there and back", x.bound(), 32);
+        x.dark(2, true);
+        due.is("29 two that aren't out", x.bound(), -ENDLESS);
+        LampRound y = square();
+        due.is("29 square", y.bound(), 14);
+        y.price(2, 1);
+        y.price(3, -1);
+        due.is("29 square, priced", y.bound(), 14);
+        y.price(2, 0);
+        y.price(3, 2);
+        // 1-2 3, 2-3 6, 0-1 2, 0-2 5 and twice 2 less.
+        due.is("29 square, dearer", y.bound(), 12);
+        y.price(0, -100000);
+        y.price(1, -100000);
+        y.price(2, 100000);
+        y.price(3, 100000);
+        // 1-2 3, 1-3 7; 0-1 2 - 200000, 0-2 5: as far, three at 1 and one at 3.
+        due.is("29 prices at the edge", y.bound(), 17 - 200000);
+        due.is("30 prices at the edge", y.taken(0), 18);
+        due.is("30 prices at the edge", y.taken(1), 19);
+        due.is("30 prices at the edge", y.taken(2), 1);
+        due.is("30 prices at the edge", y.taken(3), 2);
+    }
+
+    /** Twelve lamps round a ring of lanes of 3. */
+    private static void boundOfMany() {
+        LampRound x = new LampRound();
+        for (int i = 0; i < 12; i++) x.lane(i, (i + 1) % 12, 3);
+        for (int i = 0; i < 12; i++) x.lamp(i, 0, 0);
+        due.is("29 twelve", x.bound(), 36);
+        for (int i = 0; i < 10; i++) due.is("30 twelve", x.taken(i), 16 * (i + 1) + i + 2);
+        due.is("30 twelve", x.taken(10), 1);
+        due.is("30 twelve", x.taken(11), 11);
+        due.is("30 twelve", x.taken(12), -1);
+        due.is("31 twelve", x.prove(36), 1);
+        due.is("36 twelve", x.check(36), -1);
+        due.is("36 twelve", x.check(37), 0);
+    }
+
+    private static void taken() {
+        LampRound x = new LampRound();
+        due.is("30 fewer than three", x.taken(0), -1);
+        x.lamp(0, 0, 0);
+        x.lamp(1, 0, 0);
+        x.lane(0, 1, 4);
+        due.is("30 fewer than three", x.taken(0), -1);
+        x.lamp(2, 0, 0);
+        due.is("30 endless: what is taken yet", x.taken(0), 1);
+        due.is("30 endless: nothing more", x.taken(1), -1);
+        LampRound y = square();
+        int[] pairs = {18, 35, 1, 2, -1};
+        for (int i = 0; i < 5; i++) due.is("30 pair " + i, y.taken(i), pairs[i]);
+        due.is("30 below", y.taken(-1), -1);
+        due.is("30 far", y.taken(Integer.MAX_VALUE), -1);
+        y.price(3, -6);
+        // 2-3 -2, 1-3 1, 1-2 3; 0-3 -1, 0-1 2, 0-2 5.
+        int[] priced = {35, 19, 3, 1, -1};
+        for (int i = 0; i < 5; i++) due.is("30 by priced " + i, y.taken(i), priced[i]);
+    }
+
+    private static void prove() {
+        LampRound x = square();
+        due.is("31 n below", x.prove(-1), LampRound.NUMBER);
+        due.is("31 by prices", x.prove(14), 1);
+        due.lines("31 by prices", x, 2, 0, 0);
+        due.is("31 n 0", x.prove(0), 1);
+        LampRound y = new LampRound();
+        due.is("31 STATE", y.prove(0), LampRound.STATE);
+        due.is("31 NUMBER ahead of STATE", y.prove(-1), LampRound.NUMBER);
+        // Three lamps on a line 0 - 1 - 2: the only round has 10, the tree 1-2 and 0-1, 0-2 too.
+        y.lane(0, 1, 2);
+        y.lane(1, 2, 3);
+        for (int i = 0; i < 3; i++) y.lamp(i, 0, 0);
+        due.is("31 three", y.prove(10), 1);
+        due.is("31 three: one more is spent", y.prove(11), LampRound.SPENT);
+    }
+
+    /** Ways as in the square; 3 is TWIN of 1: rounds of 18 and 20 keep them, the bound is 14. */
+    private static void proveWithTwins() {
+        LampRound x = new LampRound();
+        x.lane(0, 1, 2);
+        x.lane(1, 2, 3);
+        x.lane(2, 3, 4);
+        x.lane(3, 0, 5);
+        x.lane(0, 2, 6);
+        for (int i = 0; i < 4; i++) x.lamp(i, i == 3 ? 1 : 0, 1);
+        int n = x.prove(15);
+        due.is("31 longer than prices alone", n > 1 ? 1 : 0, 1);
+        due.is("36 what was proved is right", x.check(15), -1);
+        // The cheapest pair first; 0-1 2.
+        due.is("31 PART first", x.shown(0, 0), 1);
+        due.is("31 of the cheapest pair", x.shown(0, 1), 0);
+        due.is("31 of the cheapest pair", x.shown(0, 2), 1);
+        due.is("31 the least that keeps twins", x.prove(18) > 1 ? 1 : 0, 1);
+        due.is("36 the least that keeps twins", x.check(18), -1);
+        due.is("31 no more", x.prove(19), LampRound.SPENT);
+        boolean twins = false;
+        for (int i = 0; i < x.many(3); i++) twins |= x.shown(i, 0) == 6 && x.shown(i, 1) == 1 && x.shown(i, 2) == 3;
+        due.is("31 TWINS with the least a", twins ? 1 : 0, 1);
+    }
+
+    private static void proveSpent() {
+        LampRound x = square();
+        lines(x, 5, 1, 2);
+        due.is("31 spent", x.prove(15), LampRound.SPENT);
+        due.lines("31 spent: the told proof stays", x, 5, 1, 2);
+        // Twelve lamps about one crossing: no round is shorter than 24, but 25 has no proof.
+        LampRound y = new LampRound();
+        for (int i = 0; i < 12; i++) {
+            y.lane(39, i, 1);
+            y.lamp(i, 0, 0);
+        }
+        due.is("31 all alike", y.prove(24), 1);
+        due.is("31 all alike, spent", y.prove(25), LampRound.SPENT);
+        due.is("31 all alike, the most", y.prove(Integer.MAX_VALUE), LampRound.SPENT);
+    }
+
+    private static void line() {
+        LampRound x = new LampRound();
+        due.is("32 op 0", x.line(0, 0, 0), LampRound.NUMBER);
+        due.is("32 op 7", x.line(7, 0, 0), LampRound.NUMBER);
+        due.is("32 op -1", x.line(-1, 0, 0), LampRound.NUMBER);
+        for (int i = 0; i < 400; i++) due.is("32 how many", x.line(1 + i % 6, i, -i), i + 1);
+        due.is("32 full", x.line(1, 0, 0), LampRound.FULL);
+        due.is("32 NUMBER ahead of FULL", x.line(0, 0, 0), LampRound.NUMBER);
+        for (int i = 0; i < 400; i++) {
+            due.is("35 op", x.shown(i, 0), 1 + i % 6);
+            due.is("35 a", x.shown(i, 1), i);
+            due.is("35 b", x.shown(i, 2), -i);
+        }
+    }
+
+    private static void alterAndCut() {
+        LampRound x = new LampRound();
+        due.is("33 none", x.alter(0, 1, 0, 0), LampRound.NUMBER);
+        lines(x, 1, 2, 3, 4, 5, 6, 6, 7, 8);
+        due.is("33 below", x.alter(-1, 1, 0, 0), LampRound.NUMBER);
+        due.is("33 above", x.alter(3, 1, 0, 0), LampRound.NUMBER);
+        due.is("33 op 0", x.alter(0, 0, 0, 0), LampRound.NUMBER);
+        due.is("33 op 7", x.alter(0, 7, 0, 0), LampRound.NUMBER);
+        due.lines("33 refused ones change nothing", x, 1, 2, 3, 4, 5, 6, 6, 7, 8);
+        due.is("33 altered", x.alter(1, 2, Integer.MAX_VALUE, Integer.MIN_VALUE), 1);
+        due.lines("33 altered", x, 1, 2, 3, 2, Integer.MAX_VALUE, Integer.MIN_VALUE, 6, 7, 8);
+        due.is("34 not so many", x.cut(4), LampRound.NUMBER);
+        due.is("34 below", x.cut(-1), LampRound.NUMBER);
+        due.is("34 all", x.cut(3), 3);
+        due.is("34 two", x.cut(2), 2);
+        due.is("34 two", x.many(3), 2);
+        due.is("34 cut is gone", x.shown(2, 0), NO_LINE);
+        due.is("33 cut is gone", x.alter(2, 1, 0, 0), LampRound.NUMBER);
+        due.is("32 behind the cut", x.line(3, 9, 9), 3);
+        due.lines("32 behind the cut", x, 1, 2, 3, 2, Integer.MAX_VALUE, Integer.MIN_VALUE, 3, 9, 9);
+        due.is("34 none", x.cut(0), 0);
+        due.is("34 none", x.many(3), 0);
+    }
+
+    private static void shown() {
+        LampRound x = new LampRound();
+        due.is("35 none", x.shown(0, 0), NO_LINE);
+        lines(x, 3, -4, 99);
+        due.lines("35 shown", x, 3, -4, 99);
+        due.is("35 what 3", x.shown(0, 3), NO_LINE);
+        due.is("35 what -1", x.shown(0, -1), NO_LINE);
+        due.is("35 line 1", x.shown(1, 0), NO_LINE);
+        due.is("35 line -1", x.shown(-1, 0), NO_LINE);
+        due.is("35 line 400", x.shown(400, 0), NO_LINE);
+    }
+
+    private static void check() {
+        LampRound x = new LampRound();
+        due.is("36 n below ahead of STATE", x.check(-1), -2);
+        due.is("36 STATE", x.check(0), LampRound.STATE);
+        LampRound y = square();
+        due.is("36 n below", y.check(-1), -2);
+        due.is("36 no lines end too soon", y.check(0), 0);
+        lines(y, 2, 77, -5);
+        due.is("36 what isn't named counts nothing", y.check(14), -1);
+        due.is("36 too much", y.check(15), 0);
+        lines(y, 2, 0, 0, 2, 0, 0);
+        due.is("36 a line behind a proof", y.check(14), 1);
+        lines(y, 1, 0, 1, 2, 0, 0);
+        due.is("36 ends too soon", y.check(14), 2);
+        lines(y, 1, 0, 1, 2, 0, 0, 2, 0, 0);
+        due.is("36 both cases", y.check(14), -1);
+        lines(y, 1, 0, 1, 2, 0, 0, 2, 0, 0, 3, 0, 0);
+        due.is("36 behind both cases", y.check(14), 3);
+        due.is("36 the first wrong one", y.check(15), 1);
+    }
+
+    private static void checkPart() {
+        LampRound x = square();
+        x.lamp(9, 3, 0);
+        x.dark(4, true);
+        int[][] wrong = {{1, 0}, {2, 2}, {-1, 2}, {0, 5}, {0, 4}, {0, 12}, {0, 40}, {-5, -3}, {3, Integer.MAX_VALUE}};
+        for (int[] pair : wrong) {
+            lines(x, 1, pair[0], pair[1]);
+            due.is("36 PART " + pair[0] + " " + pair[1], x.check(14), 0);
+        }
+        lines(x, 1, 2, 3);
+        due.is("36 PART stands", x.check(14), 1);
+        lines(x, 1, 2, 3, 1, 2, 3);
+        due.is("36 JOINED already", x.check(14), 1);
+        lines(x, 1, 2, 3, 2, 0, 0, 1, 2, 3);
+        due.is("36 PARTED already", x.check(14), 2);
+        lines(x, 1, 0, 1, 1, 0, 2, 2, 0, 0, 2, 0, 0, 1, 0, 2, 2, 0, 0, 2, 0, 0);
+        due.is("36 a pair anew in the other case", x.check(14), -1);
+    }
+
+    private static void checkFewAndMany() {
+        LampRound x = square();
+        lines(x, 3, 0, 0);
+        due.is("36 FEW of all", x.check(0), 0);
+        lines(x, 1, 0, 1, 2, 0, 0, 3, 0, 0);
+        due.is("36 FEW with two left", x.check(0), 2);
+        lines(x, 1, 0, 1, 2, 0, 0, 1, 0, 2, 2, 0, 0, 3, 0, 55);
+        due.is("36 FEW with one left", x.check(0), -1);
+        x.alter(4, 3, 3, 0);
+        due.is("36 FEW of another", x.check(0), 4);
+        x.alter(4, 3, -1, 0);
+        due.is("36 FEW of none", x.check(0), 4);
+        x.alter(4, 3, 4, 0);
+        due.is("36 FEW of none", x.check(0), 4);
+        lines(x, 1, 0, 1, 1, 0, 2, 4, 0, 0);
+        due.is("36 MANY with two", x.check(0), 2);
+        lines(x, 1, 0, 1, 1, 0, 2, 1, 0, 3, 4, 0, -1);
+        due.is("36 MANY with three", x.check(0), 4);
+        x.alter(3, 4, 1, 0);
+        due.is("36 MANY of another", x.check(0), 3);
+        x.alter(3, 4, 99, 0);
+        due.is("36 MANY of none", x.check(0), 3);
+        // Of three lamps each has two pairs: one PARTED is enough for FEW.
+        LampRound y = new LampRound();
+        for (int i = 0; i < 4; i++) y.lamp(i, i == 1 ? 3 : 0, 0);
+        y.dark(1, true);
+        lines(y, 1, 0, 3, 2, 0, 0, 3, 3, 0);
+        due.is("36 FEW without those that are out", y.check(0), -1);
+        y.alter(2, 3, 2, 0);
+        due.is("36 FEW of one with two left", y.check(0), 2);
+        y.alter(2, 3, 1, 0);
+        due.is("36 FEW of one that is out", y.check(0), 2);
+    }
+
+    private static void checkRing() {
+        LampRound x = square();
+        lines(x, 1, 0, 1, 1, 1, 2, 5, 0, 0);
+        due.is("36 RING that is open", x.check(0), 2);
+        lines(x, 1, 0, 1, 1, 1, 2, 1, 0, 2, 5, 0, 9);
+        due.is("36 RING", x.check(0), 4);
+        x.alter(3, 5, 2, 0);
+        due.is("36 RING of any of it", x.check(0), 4);
+        x.alter(3, 5, 3, 0);
+        due.is("36 RING of one outside", x.check(0), 3);
+        x.alter(3, 5, -3, 0);
+        due.is("36 RING of none", x.check(0), 3);
+        lines(x, 1, 0, 1, 1, 1, 2, 1, 0, 2, 1, 0, 3, 5, 0, 0);
+        due.is("36 RING with a tail", x.check(0), 4);
+        lines(x, 1, 0, 1, 1, 1, 2, 1, 2, 3, 1, 0, 3, 5, 0, 0);
+        due.is("36 RING of all", x.check(0), 4);
+        LampRound y = new LampRound();
+        for (int i = 0; i < 8; i++) y.lamp(i, 0, 0);
+        lines(y, 1, 0, 1, 1, 1, 2, 1, 2, 3, 1, 3, 4, 1, 4, 5, 1, 5, 6, 1, 0, 6, 5, 3, 0);
+        due.is("36 RING of seven", y.check(0), 8);
+    }
+
+    private static void checkTwins() {
+        LampRound x = new LampRound();
+        x.lamp(0, 0, 0);
+        x.lamp(1, 3, 0);
+        x.lamp(2, 1, 0);
+        x.lamp(3, 1, 1);
+        x.lamp(4, 2, 0);
+        x.lane(4, 3, 1);
+        lines(x, 6, 0, 2);
+        due.is("36 TWINS that aren't PARTED", x.check(0), 0);
+        lines(x, 1, 0, 2, 6, 0, 2);
+        due.is("36 TWINS that are JOINED", x.check(0), 1);
+        lines(x, 1, 0, 2, 2, 0, 0, 6, 0, 2);
+        due.is("36 TWINS", x.check(0), -1);
+        x.alter(2, 6, 2, 0);
+        due.is("36 TWINS, the other way about", x.check(0), -1);
+        x.alter(2, 6, 0, 1);
+        due.is("36 no TWINS", x.check(0), 2);
+        x.alter(2, 6, 0, -1);
+        due.is("36 no lamp", x.check(0), 2);
+        x.alter(2, 6, 77, 0);
+        due.is("36 no lamp", x.check(0), 2);
+        lines(x, 1, 3, 4, 2, 0, 0, 6, 3, 4);
+        due.is("36 a corner's TWIN", x.check(0), -1);
+        lines(x, 1, 1, 3, 2, 0, 0, 6, 1, 3);
+        due.is("36 TWINS that are lit", x.check(0), -1);
+        x.dark(1, true);
+        lines(x, 1, 0, 2, 2, 0, 0, 6, 1, 3);
+        due.is("36 one is out", x.check(0), 2);
+    }
+
+    private static void checkPrices() {
+        LampRound x = square();
+        // JOINED 1-3: 1-3 7, 1-2 3, 0-1 2, 0-2 5; PARTED 0-1: 1-2 3, 2-3 4, 0-2 5, 0-3 5.
+        lines(x, 1, 1, 3, 2, 0, 0, 2, 0, 0);
+        due.is("36 JOINED ones first", x.check(17), 2);
+        due.is("36 JOINED ones first", x.check(18), 1);
+        lines(x, 1, 0, 1, 1, 0, 3, 2, 0, 0);
+        // 1-2 3, 2-3 4; 0-1 2, 0-3 5.
+        due.is("36 JOINED ones of THE FIRST", x.check(14), 3);
+        due.is("36 JOINED ones of THE FIRST", x.check(15), 2);
+        lines(x, 1, 0, 1, 3, 0, 0, 2, 0, 0);
+        x.alter(1, 2, 0, 0);
+        due.is("36 PARTED ones are left out", x.check(14), -1);
+        lines(x, 1, 1, 2, 2, 0, 0, 2, 0, 0);
+        // PARTED 1-2: 2-3 4, 1-3 7, 0-1 2, 0-2 5.
+        due.is("36 PARTED ones are left out", x.check(14), -1);
+        due.is("36 too much for the JOINED case", x.check(15), 1);
+        x.price(0, 9);
+        due.is("36 prices of THE FIRST alone change nothing", x.check(14), -1);
+        x.lamp(30, 0, 0);
+        lines(x, 2, 0, 0);
+        due.is("36 ENDLESS", x.check(Integer.MAX_VALUE), -1);
+        LampRound y = square();
+        lines(y, 1, 0, 1, 2, 0, 0, 1, 0, 2, 2, 0, 0, 2, 0, 0);
+        due.is("36 THE FIRST has one pair only: ENDLESS", y.check(14), -1);
+        y.lamp(20, 3, 0);
+        y.dark(4, true);
+        due.is("36 the same without one that is out", y.check(14), -1);
+    }
+
+    /**
+     * All pairs between 1, 2 and 3, 4 are PARTED, so the tree of these falls into two; but THE FIRST's
+     * two pairs hang all together, as what is taken: the bound isn't ENDLESS.
+     */
+    private static void checkHangsTogetherByTheFirst() {
+        LampRound x = new LampRound();
+        for (int i = 0; i < 5; i++) {
+            x.lane(39, i, i == 1 || i == 3 ? 1 : 2);
+            x.lamp(i, 0, 0);
+        }
+        lines(x, 1, 1, 3, 2, 0, 0, 1, 1, 4, 2, 0, 0, 1, 2, 3, 2, 0, 0, 1, 2, 4, 2, 0, 0, 2, 0, 0);
+        // 1-2 3, 3-4 3, 0-1 3, 0-3 3: 12.
+        due.is("36 hangs together by THE FIRST", x.check(12), -1);
+        due.is("36 hangs together by THE FIRST, n 13", x.check(13), 8);
+        x.open(0, false);
+        due.is("36 THE FIRST is apart", x.check(13), -1);
+    }
+}
