@@ -7,6 +7,7 @@ public final class ProofsTest {
     public static void main(String[] args) {
         price();
         climb();
+        climbFurther();
         bound();
         boundOfMany();
         taken();
@@ -84,6 +85,28 @@ public final class ProofsTest {
         LampRound y = new LampRound();
         due.is("28 STATE", y.climb(1), LampRound.STATE);
         due.is("28 NUMBER ahead of STATE", y.climb(0), LampRound.NUMBER);
+    }
+
+    /** Lamp 3 in the middle, lanes of 10 to the others: each step has another tree. */
+    private static void climbFurther() {
+        int[][] prices = {{0, 0, -1, 1}, {0, -1, -1, 2}, {0, -1, -2, 3}};
+        for (int steps = 1; steps <= 3; steps++) {
+            LampRound x = new LampRound();
+            for (int i = 0; i < 3; i++) x.lane(3, i, 10);
+            for (int i = 0; i < 4; i++) x.lamp(i, 0, 0);
+            due.is("29 ahead of the climb", x.bound(), 50);
+            due.is("28 steps", x.climb(steps), steps);
+            for (int l = 0; l < 4; l++) due.is("28 price behind " + steps, x.of(l, 4), prices[steps - 1][l]);
+            // Behind three: 2-3 11, 1-3 12, 0-3 13, 0-2 18.
+            if (steps == 3) due.is("29 behind the climb", x.bound(), 54);
+        }
+        LampRound y = new LampRound();
+        for (int i = 0; i < 3; i++) y.lane(3, i, 10);
+        for (int i = 0; i < 4; i++) y.lamp(i, 0, 0);
+        for (int l = 0; l < 4; l++) y.price(l, 100000);
+        y.climb(1);
+        due.is("28 a price may climb above what may be told", y.of(3, 4), 100001);
+        due.is("29 prices alike leave the bound", y.bound(), 10 + 11 + 11 + 19);
     }
 
     private static void bound() {
@@ -183,14 +206,16 @@ public final class ProofsTest {
         x.lane(3, 0, 5);
         x.lane(0, 2, 6);
         for (int i = 0; i < 4; i++) x.lamp(i, i == 3 ? 1 : 0, 1);
-        int n = x.prove(15);
-        due.is("31 longer than prices alone", n > 1 ? 1 : 0, 1);
+        due.is("31 longer than prices alone", x.prove(15), 13);
+        due.lines("31 longer than prices alone", x,
+                1, 0, 1, 1, 1, 2, 1, 2, 3,   // all three JOINED: 14 still
+                1, 0, 2, 4, 2, 0,            // 0-2 comes ahead of 0-3, which is as dear
+                1, 0, 3, 1, 1, 3, 4, 1, 0, 6, 1, 3, 3, 0, 0,
+                2, 0, 0,                     // 2-3 PARTED: 17
+                2, 0, 0,                     // 1-2 PARTED: 18
+                2, 0, 0);                    // 0-1 PARTED: 17
         due.is("36 what was proved is right", x.check(15), -1);
-        // The cheapest pair first; 0-1 2.
-        due.is("31 PART first", x.shown(0, 0), 1);
-        due.is("31 of the cheapest pair", x.shown(0, 1), 0);
-        due.is("31 of the cheapest pair", x.shown(0, 2), 1);
-        due.is("31 the least that keeps twins", x.prove(18) > 1 ? 1 : 0, 1);
+        due.is("31 the least that keeps twins", x.prove(18), 21);
         due.is("36 the least that keeps twins", x.check(18), -1);
         due.is("31 no more", x.prove(19), LampRound.SPENT);
         boolean twins = false;

@@ -25,7 +25,7 @@ public final class RoomTest {
 
     private static LampRound town() {
         LampRound x = new LampRound();
-        for (int i = 0; i < 99; i++) x.lane(i % 40, (i * 7 + 1) % 40, 1 + i * 37 % 90);
+        for (int i = 0; i < 99; i++) x.lane(i % 40, i < 40 ? (i + 1) % 40 : (i * 11 + 5) % 40, 1 + i * 37 % 90);
         for (int i = 0; i < 12; i++) x.lamp(i * 3, i < 4 ? 4 : 0, 0);
         return x;
     }
@@ -37,7 +37,7 @@ public final class RoomTest {
             for (int l = 0; l < 4; l++) sum += x.dark(l, out);
             sum += x.open(i % 5, out) + x.least() + x.second() + x.with(5, 6, out) + x.better();
             sum += x.row(i % 4, 1, 50) + x.lay(i % 4, 0, 9, 80) + x.walk(0, 39, 3);
-            sum += x.climb(20) + (int) x.bound() + x.taken(3) + x.prove(100 * i) + x.check(100 * i);
+            sum += x.climb(20) + (int) x.bound() + x.taken(3) + x.prove(500 + 3 * i) + x.check(500 + 3 * i);
         }
         return sum;
     }
