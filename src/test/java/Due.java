@@ -7,28 +7,37 @@ final class Due {
         this.test = test;
     }
 
-    void is(String promise, long got, long want) {
-        if (got != want) {
-            wrong++;
-            System.out.println(test + ", promise " + promise + ": answered " + got + ", due is " + want);
-        }
+    /** A new object, with the model beside it. */
+    Desk desk() {
+        return new Desk(this);
+    }
+
+    void is(String what, long got, long want) {
+        if (got != want) fault(what + ": answered " + got + ", due is " + want);
+    }
+
+    void fault(String text) {
+        wrong++;
+        System.out.println(test + ", " + text);
     }
 
     /** The LAMPS of THE TOLD ROUND, and nothing behind them. */
-    void round(String promise, LampRound x, int... want) {
-        is(promise + ", how many", x.many(4), want.length);
-        for (int i = 0; i < want.length; i++) {
-            is(promise + ", place " + i, x.at(i), want[i]);
-        }
-        is(promise + ", behind the end", x.at(want.length), -1);
+    void round(String what, Desk x, int... want) {
+        is(what + ", how many", x.many(4), want.length);
+        for (int i = 0; i < want.length; i++) is(what + ", place " + i, x.at(i), want[i]);
+        is(what + ", behind the end", x.at(want.length), -1);
     }
 
     /** LINES of the told PROOF, three numbers each, and nothing behind them. */
-    void lines(String promise, LampRound x, int... want) {
-        is(promise + ", how many lines", x.many(3), want.length / 3);
+    void lines(String what, Desk x, int... want) {
+        is(what + ", how many lines", x.many(3), want.length / 3);
         for (int i = 0; i < want.length; i++) {
-            is(promise + ", line " + i / 3 + " what " + i % 3, x.shown(i / 3, i % 3), want[i]);
+            is(what + ", line " + i / 3 + " what " + i % 3, x.shown(i / 3, i % 3), want[i]);
         }
+    }
+
+    int wrong() {
+        return wrong;
     }
 
     void end() {

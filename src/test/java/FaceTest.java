@@ -72,6 +72,9 @@ public final class FaceTest {
             publicNames.add(m.getName());
         }
         same("face: methods", got, METHODS);
+        for (Class<?> c : LampRound.class.getDeclaredClasses()) {
+            for (Method m : c.getDeclaredMethods()) if (Modifier.isPrivate(m.getModifiers())) privateNames.add(m.getName());
+        }
         privateNames.retainAll(publicNames);
         due.is("face: private methods with a public one's name", privateNames.size(), 0);
     }

@@ -13,7 +13,7 @@ public final class LampsTest {
     }
 
     private static void lamp() {
-        LampRound x = new LampRound();
+        Desk x = due.desk();
         due.is("12 crossing below", x.lamp(-1, 0, 0), LampRound.NUMBER);
         due.is("12 crossing above", x.lamp(40, 0, 0), LampRound.NUMBER);
         due.is("12 kind below", x.lamp(0, -1, 0), LampRound.NUMBER);
@@ -40,7 +40,7 @@ public final class LampsTest {
     }
 
     private static void dark() {
-        LampRound x = new LampRound();
+        Desk x = due.desk();
         due.is("13 none", x.dark(0, true), LampRound.NUMBER);
         for (int kind = 0; kind <= 4; kind++) x.lamp(kind, kind, 0);
         due.is("13 below", x.dark(-1, true), LampRound.NUMBER);
@@ -59,7 +59,7 @@ public final class LampsTest {
     }
 
     private static void twin() {
-        LampRound x = new LampRound();
+        Desk x = due.desk();
         due.is("14 none", x.twin(0), -2);
         x.lamp(0, 0, 0);
         x.lamp(1, 1, 0);
@@ -87,7 +87,7 @@ public final class LampsTest {
         due.is("14 the least way", x.twin(2), 0);
         x.open(4, false);
         due.is("14 by open lanes", x.twin(2), 3);
-        LampRound y = new LampRound();
+        Desk y = due.desk();
         y.lane(0, 1, 5);
         y.lamp(0, 2, 0);
         due.is("14 a corner alone", y.twin(0), -1);
@@ -97,7 +97,7 @@ public final class LampsTest {
     }
 
     private static void twinThatIsOut() {
-        LampRound x = new LampRound();
+        Desk x = due.desk();
         x.lane(0, 1, 1);
         x.lane(1, 2, 5);
         x.lamp(0, 3, 0);
@@ -116,7 +116,7 @@ public final class LampsTest {
     }
 
     private static void of() {
-        LampRound x = new LampRound();
+        Desk x = due.desk();
         due.is("15 none", x.of(0, 0), Integer.MIN_VALUE);
         x.lamp(30, 0, 0);
         x.lamp(31, 1, 0);
@@ -143,7 +143,7 @@ public final class LampsTest {
     }
 
     private static void many() {
-        LampRound x = new LampRound();
+        Desk x = due.desk();
         x.lane(0, 1, 1);
         x.lane(0, 1, 1);
         x.lamp(0, 0, 0);

@@ -20,7 +20,7 @@ public final class LanesAndRowsTest {
     }
 
     private static void newObject() {
-        LampRound x = new LampRound();
+        Desk x = due.desk();
         for (int what = 0; what <= 5; what++) due.is("1 many " + what, x.many(what), 0);
         for (int r = 0; r < 4; r++) {
             due.is("1 row is missing", x.told(r, 0), NONE);
@@ -34,7 +34,7 @@ public final class LanesAndRowsTest {
     }
 
     private static void lane() {
-        LampRound x = new LampRound();
+        Desk x = due.desk();
         due.is("2 a below", x.lane(-1, 1, 5), LampRound.NUMBER);
         due.is("2 a above", x.lane(40, 1, 5), LampRound.NUMBER);
         due.is("2 b below", x.lane(1, -1, 5), LampRound.NUMBER);
@@ -54,7 +54,7 @@ public final class LanesAndRowsTest {
     }
 
     private static void open() {
-        LampRound x = new LampRound();
+        Desk x = due.desk();
         due.is("3 none", x.open(0, false), LampRound.NUMBER);
         x.lane(0, 1, 5);
         due.is("3 below", x.open(-1, false), LampRound.NUMBER);
@@ -73,7 +73,7 @@ public final class LanesAndRowsTest {
     }
 
     private static void about() {
-        LampRound x = new LampRound();
+        Desk x = due.desk();
         x.lane(9, 4, 77);
         due.is("4 a", x.about(0, 0), 9);
         due.is("4 b", x.about(0, 1), 4);
@@ -87,7 +87,7 @@ public final class LanesAndRowsTest {
     }
 
     private static void row() {
-        LampRound x = new LampRound();
+        Desk x = due.desk();
         due.is("5 r -1", x.row(-1, 0, 1), LampRound.NUMBER);
         due.is("5 r 4", x.row(4, 0, 1), LampRound.NUMBER);
         due.is("5 kind -1", x.row(0, -1, 1), LampRound.NUMBER);
@@ -117,7 +117,7 @@ public final class LanesAndRowsTest {
     }
 
     private static void cell() {
-        LampRound x = new LampRound();
+        Desk x = due.desk();
         due.is("6 r -1", x.cell(-1, 0, 1), LampRound.NUMBER);
         due.is("6 r 4", x.cell(4, 0, 1), LampRound.NUMBER);
         due.is("6 missing ahead of i", x.cell(0, -1, 1), LampRound.MISSING);
@@ -137,7 +137,7 @@ public final class LanesAndRowsTest {
     }
 
     private static void told() {
-        LampRound x = new LampRound();
+        Desk x = due.desk();
         due.is("7 r -1", x.told(-1, 0), NONE);
         due.is("7 r 4", x.told(4, 0), NONE);
         due.is("7 missing", x.told(2, 0), NONE);
@@ -149,7 +149,7 @@ public final class LanesAndRowsTest {
     }
 
     private static void lose() {
-        LampRound x = new LampRound();
+        Desk x = due.desk();
         due.is("8 r -1", x.lose(-1), LampRound.NUMBER);
         due.is("8 r 4", x.lose(4), LampRound.NUMBER);
         due.is("8 missing", x.lose(3), LampRound.MISSING);
@@ -161,7 +161,7 @@ public final class LanesAndRowsTest {
     }
 
     private static void lay() {
-        LampRound x = new LampRound();
+        Desk x = due.desk();
         for (int i = 0; i < 4; i++) x.lane(i, i + 1, 10 + i);
         due.is("9 r -1", x.lay(-1, 0, 1, 0), LampRound.NUMBER);
         due.is("9 r 4", x.lay(4, 0, 1, 0), LampRound.NUMBER);
@@ -201,7 +201,7 @@ public final class LanesAndRowsTest {
     }
 
     private static void layEmptiesTheToldRound() {
-        LampRound x = new LampRound();
+        Desk x = due.desk();
         x.lane(0, 1, 5);
         x.lamp(0, 0, 0);
         x.row(1, 1, 2);
@@ -221,7 +221,7 @@ public final class LanesAndRowsTest {
     }
 
     private static void way() {
-        LampRound x = new LampRound();
+        Desk x = due.desk();
         due.is("10 a below", x.way(-1, 0), LampRound.NUMBER);
         due.is("10 b above", x.way(0, 40), LampRound.NUMBER);
         due.is("10 itself", x.way(39, 39), 0);
@@ -239,7 +239,7 @@ public final class LanesAndRowsTest {
     }
 
     private static void walk() {
-        LampRound x = new LampRound();
+        Desk x = due.desk();
         due.is("11 a below", x.walk(-1, 0, 0), -1);
         due.is("11 b above", x.walk(0, 40, 0), -1);
         due.is("11 no walk", x.walk(0, 1, 0), -1);
@@ -267,7 +267,7 @@ public final class LanesAndRowsTest {
         due.is("11 one lane, as short", x.walk(0, 9, 1), 4);
         x.lane(9, 0, 5);
         due.is("11 one lane, shorter", x.walk(0, 9, 1), 9);
-        LampRound y = new LampRound();
+        Desk y = due.desk();
         for (int i = 0; i < 39; i++) y.lane(i, i + 1, 1);
         due.is("11 the longest walk", y.walk(0, 39, 39), 39);
         due.is("11 behind the longest walk", y.walk(0, 39, 40), -1);

@@ -27,25 +27,8 @@ public final class ProofsTest {
         due.end();
     }
 
-    /** Ways 0-1 2, 1-2 3, 2-3 4, 0-3 5, 0-2 5, 1-3 7; rounds of 14, 18 and 20. */
-    private static LampRound square() {
-        LampRound x = new LampRound();
-        x.lane(0, 1, 2);
-        x.lane(1, 2, 3);
-        x.lane(2, 3, 4);
-        x.lane(3, 0, 5);
-        x.lane(0, 2, 6);
-        for (int i = 0; i < 4; i++) x.lamp(i, 0, 0);
-        return x;
-    }
-
-    private static void lines(LampRound x, int... told) {
-        x.cut(0);
-        for (int i = 0; i + 2 < told.length; i += 3) x.line(told[i], told[i + 1], told[i + 2]);
-    }
-
     private static void price() {
-        LampRound x = new LampRound();
+        Desk x = due.desk();
         due.is("27 none", x.price(0, 0), LampRound.NUMBER);
         x.lamp(0, 3, 0);
         due.is("27 below", x.price(-1, 0), LampRound.NUMBER);
@@ -63,7 +46,7 @@ public final class ProofsTest {
     }
 
     private static void climb() {
-        LampRound x = square();
+        Desk x = Towns.litSquare(due);
         due.is("28 n 0", x.climb(0), LampRound.NUMBER);
         due.is("28 n 101", x.climb(101), LampRound.NUMBER);
         due.is("28 n -1", x.climb(-1), LampRound.NUMBER);
@@ -82,7 +65,7 @@ public final class ProofsTest {
         due.is("28 without the one that is out", x.climb(1), 1);
         due.is("28 the price of one that is out stays", x.of(4, 4), 50);
         due.is("28 the others' don't", x.of(3, 4), -1);
-        LampRound y = new LampRound();
+        Desk y = due.desk();
         due.is("28 STATE", y.climb(1), LampRound.STATE);
         due.is("28 NUMBER ahead of STATE", y.climb(0), LampRound.NUMBER);
     }
@@ -91,7 +74,7 @@ public final class ProofsTest {
     private static void climbFurther() {
         int[][] prices = {{0, 0, -1, 1}, {0, -1, -1, 2}, {0, -1, -2, 3}};
         for (int steps = 1; steps <= 3; steps++) {
-            LampRound x = new LampRound();
+            Desk x = due.desk();
             for (int i = 0; i < 3; i++) x.lane(3, i, 10);
             for (int i = 0; i < 4; i++) x.lamp(i, 0, 0);
             due.is("29 ahead of the climb", x.bound(), 50);
@@ -100,7 +83,7 @@ public final class ProofsTest {
             // Behind three: 2-3 11, 1-3 12, 0-3 13, 0-2 18.
             if (steps == 3) due.is("29 behind the climb", x.bound(), 54);
         }
-        LampRound y = new LampRound();
+        Desk y = due.desk();
         for (int i = 0; i < 3; i++) y.lane(3, i, 10);
         for (int i = 0; i < 4; i++) y.lamp(i, 0, 0);
         for (int l = 0; l < 4; l++) y.price(l, 100000);
@@ -110,7 +93,7 @@ public final class ProofsTest {
     }
 
     private static void bound() {
-        LampRound x = new LampRound();
+        Desk x = due.desk();
         due.is("29 none", x.bound(), -ENDLESS);
         x.lamp(0, 0, 0);
         x.lamp(1, 0, 0);
@@ -123,7 +106,7 @@ public final class ProofsTest {
         due.is("29 there and back", x.bound(), 32);
         x.dark(2, true);
         due.is("29 two that aren't out", x.bound(), -ENDLESS);
-        LampRound y = square();
+        Desk y = Towns.litSquare(due);
         due.is("29 square", y.bound(), 14);
         y.price(2, 1);
         y.price(3, -1);
@@ -146,7 +129,7 @@ public final class ProofsTest {
 
     /** Twelve lamps round a ring of lanes of 3. */
     private static void boundOfMany() {
-        LampRound x = new LampRound();
+        Desk x = due.desk();
         for (int i = 0; i < 12; i++) x.lane(i, (i + 1) % 12, 3);
         for (int i = 0; i < 12; i++) x.lamp(i, 0, 0);
         due.is("29 twelve", x.bound(), 36);
@@ -160,7 +143,7 @@ public final class ProofsTest {
     }
 
     private static void taken() {
-        LampRound x = new LampRound();
+        Desk x = due.desk();
         due.is("30 fewer than three", x.taken(0), -1);
         x.lamp(0, 0, 0);
         x.lamp(1, 0, 0);
@@ -169,7 +152,7 @@ public final class ProofsTest {
         x.lamp(2, 0, 0);
         due.is("30 endless: what is taken yet", x.taken(0), 1);
         due.is("30 endless: nothing more", x.taken(1), -1);
-        LampRound y = square();
+        Desk y = Towns.litSquare(due);
         int[] pairs = {18, 35, 1, 2, -1};
         for (int i = 0; i < 5; i++) due.is("30 pair " + i, y.taken(i), pairs[i]);
         due.is("30 below", y.taken(-1), -1);
@@ -181,12 +164,12 @@ public final class ProofsTest {
     }
 
     private static void prove() {
-        LampRound x = square();
+        Desk x = Towns.litSquare(due);
         due.is("31 n below", x.prove(-1), LampRound.NUMBER);
         due.is("31 by prices", x.prove(14), 1);
         due.lines("31 by prices", x, 2, 0, 0);
         due.is("31 n 0", x.prove(0), 1);
-        LampRound y = new LampRound();
+        Desk y = due.desk();
         due.is("31 STATE", y.prove(0), LampRound.STATE);
         due.is("31 NUMBER ahead of STATE", y.prove(-1), LampRound.NUMBER);
         // Three lamps on a line 0 - 1 - 2: the only round has 10, the tree 1-2 and 0-1, 0-2 too.
@@ -199,7 +182,7 @@ public final class ProofsTest {
 
     /** Ways as in the square; 3 is TWIN of 1: rounds of 18 and 20 keep them, the bound is 14. */
     private static void proveWithTwins() {
-        LampRound x = new LampRound();
+        Desk x = due.desk();
         x.lane(0, 1, 2);
         x.lane(1, 2, 3);
         x.lane(2, 3, 4);
@@ -224,12 +207,12 @@ public final class ProofsTest {
     }
 
     private static void proveSpent() {
-        LampRound x = square();
-        lines(x, 5, 1, 2);
+        Desk x = Towns.litSquare(due);
+        Towns.lines(x, 5, 1, 2);
         due.is("31 spent", x.prove(15), LampRound.SPENT);
         due.lines("31 spent: the told proof stays", x, 5, 1, 2);
         // Twelve lamps about one crossing: no round is shorter than 24, but 25 has no proof.
-        LampRound y = new LampRound();
+        Desk y = due.desk();
         for (int i = 0; i < 12; i++) {
             y.lane(39, i, 1);
             y.lamp(i, 0, 0);
@@ -240,24 +223,18 @@ public final class ProofsTest {
     }
 
     private static void line() {
-        LampRound x = new LampRound();
+        Desk x = due.desk();
         due.is("32 op 0", x.line(0, 0, 0), LampRound.NUMBER);
         due.is("32 op 7", x.line(7, 0, 0), LampRound.NUMBER);
         due.is("32 op -1", x.line(-1, 0, 0), LampRound.NUMBER);
-        for (int i = 0; i < 400; i++) due.is("32 how many", x.line(1 + i % 6, i, -i), i + 1);
-        due.is("32 full", x.line(1, 0, 0), LampRound.FULL);
-        due.is("32 NUMBER ahead of FULL", x.line(0, 0, 0), LampRound.NUMBER);
-        for (int i = 0; i < 400; i++) {
-            due.is("35 op", x.shown(i, 0), 1 + i % 6);
-            due.is("35 a", x.shown(i, 1), i);
-            due.is("35 b", x.shown(i, 2), -i);
-        }
+        for (int op = 1; op <= 6; op++) due.is("32 how many", x.line(op, 10 * op, -op), op);
+        due.lines("32 as they came", x, 1, 10, -1, 2, 20, -2, 3, 30, -3, 4, 40, -4, 5, 50, -5, 6, 60, -6);
     }
 
     private static void alterAndCut() {
-        LampRound x = new LampRound();
+        Desk x = due.desk();
         due.is("33 none", x.alter(0, 1, 0, 0), LampRound.NUMBER);
-        lines(x, 1, 2, 3, 4, 5, 6, 6, 7, 8);
+        Towns.lines(x, 1, 2, 3, 4, 5, 6, 6, 7, 8);
         due.is("33 below", x.alter(-1, 1, 0, 0), LampRound.NUMBER);
         due.is("33 above", x.alter(3, 1, 0, 0), LampRound.NUMBER);
         due.is("33 op 0", x.alter(0, 0, 0, 0), LampRound.NUMBER);
@@ -279,9 +256,9 @@ public final class ProofsTest {
     }
 
     private static void shown() {
-        LampRound x = new LampRound();
+        Desk x = due.desk();
         due.is("35 none", x.shown(0, 0), NO_LINE);
-        lines(x, 3, -4, 99);
+        Towns.lines(x, 3, -4, 99);
         due.lines("35 shown", x, 3, -4, 99);
         due.is("35 what 3", x.shown(0, 3), NO_LINE);
         due.is("35 what -1", x.shown(0, -1), NO_LINE);
@@ -291,52 +268,52 @@ public final class ProofsTest {
     }
 
     private static void check() {
-        LampRound x = new LampRound();
+        Desk x = due.desk();
         due.is("36 n below ahead of STATE", x.check(-1), -2);
         due.is("36 STATE", x.check(0), LampRound.STATE);
-        LampRound y = square();
+        Desk y = Towns.litSquare(due);
         due.is("36 n below", y.check(-1), -2);
         due.is("36 no lines end too soon", y.check(0), 0);
-        lines(y, 2, 77, -5);
+        Towns.lines(y, 2, 77, -5);
         due.is("36 what isn't named counts nothing", y.check(14), -1);
         due.is("36 too much", y.check(15), 0);
-        lines(y, 2, 0, 0, 2, 0, 0);
+        Towns.lines(y, 2, 0, 0, 2, 0, 0);
         due.is("36 a line behind a proof", y.check(14), 1);
-        lines(y, 1, 0, 1, 2, 0, 0);
+        Towns.lines(y, 1, 0, 1, 2, 0, 0);
         due.is("36 ends too soon", y.check(14), 2);
-        lines(y, 1, 0, 1, 2, 0, 0, 2, 0, 0);
+        Towns.lines(y, 1, 0, 1, 2, 0, 0, 2, 0, 0);
         due.is("36 both cases", y.check(14), -1);
-        lines(y, 1, 0, 1, 2, 0, 0, 2, 0, 0, 3, 0, 0);
+        Towns.lines(y, 1, 0, 1, 2, 0, 0, 2, 0, 0, 3, 0, 0);
         due.is("36 behind both cases", y.check(14), 3);
         due.is("36 the first wrong one", y.check(15), 1);
     }
 
     private static void checkPart() {
-        LampRound x = square();
+        Desk x = Towns.litSquare(due);
         x.lamp(9, 3, 0);
         x.dark(4, true);
         int[][] wrong = {{1, 0}, {2, 2}, {-1, 2}, {0, 5}, {0, 4}, {0, 12}, {0, 40}, {-5, -3}, {3, Integer.MAX_VALUE}};
         for (int[] pair : wrong) {
-            lines(x, 1, pair[0], pair[1]);
+            Towns.lines(x, 1, pair[0], pair[1]);
             due.is("36 PART " + pair[0] + " " + pair[1], x.check(14), 0);
         }
-        lines(x, 1, 2, 3);
+        Towns.lines(x, 1, 2, 3);
         due.is("36 PART stands", x.check(14), 1);
-        lines(x, 1, 2, 3, 1, 2, 3);
+        Towns.lines(x, 1, 2, 3, 1, 2, 3);
         due.is("36 JOINED already", x.check(14), 1);
-        lines(x, 1, 2, 3, 2, 0, 0, 1, 2, 3);
+        Towns.lines(x, 1, 2, 3, 2, 0, 0, 1, 2, 3);
         due.is("36 PARTED already", x.check(14), 2);
-        lines(x, 1, 0, 1, 1, 0, 2, 2, 0, 0, 2, 0, 0, 1, 0, 2, 2, 0, 0, 2, 0, 0);
+        Towns.lines(x, 1, 0, 1, 1, 0, 2, 2, 0, 0, 2, 0, 0, 1, 0, 2, 2, 0, 0, 2, 0, 0);
         due.is("36 a pair anew in the other case", x.check(14), -1);
     }
 
     private static void checkFewAndMany() {
-        LampRound x = square();
-        lines(x, 3, 0, 0);
+        Desk x = Towns.litSquare(due);
+        Towns.lines(x, 3, 0, 0);
         due.is("36 FEW of all", x.check(0), 0);
-        lines(x, 1, 0, 1, 2, 0, 0, 3, 0, 0);
+        Towns.lines(x, 1, 0, 1, 2, 0, 0, 3, 0, 0);
         due.is("36 FEW with two left", x.check(0), 2);
-        lines(x, 1, 0, 1, 2, 0, 0, 1, 0, 2, 2, 0, 0, 3, 0, 55);
+        Towns.lines(x, 1, 0, 1, 2, 0, 0, 1, 0, 2, 2, 0, 0, 3, 0, 55);
         due.is("36 FEW with one left", x.check(0), -1);
         x.alter(4, 3, 3, 0);
         due.is("36 FEW of another", x.check(0), 4);
@@ -344,19 +321,19 @@ public final class ProofsTest {
         due.is("36 FEW of none", x.check(0), 4);
         x.alter(4, 3, 4, 0);
         due.is("36 FEW of none", x.check(0), 4);
-        lines(x, 1, 0, 1, 1, 0, 2, 4, 0, 0);
+        Towns.lines(x, 1, 0, 1, 1, 0, 2, 4, 0, 0);
         due.is("36 MANY with two", x.check(0), 2);
-        lines(x, 1, 0, 1, 1, 0, 2, 1, 0, 3, 4, 0, -1);
+        Towns.lines(x, 1, 0, 1, 1, 0, 2, 1, 0, 3, 4, 0, -1);
         due.is("36 MANY with three", x.check(0), 4);
         x.alter(3, 4, 1, 0);
         due.is("36 MANY of another", x.check(0), 3);
         x.alter(3, 4, 99, 0);
         due.is("36 MANY of none", x.check(0), 3);
         // Of three lamps each has two pairs: one PARTED is enough for FEW.
-        LampRound y = new LampRound();
+        Desk y = due.desk();
         for (int i = 0; i < 4; i++) y.lamp(i, i == 1 ? 3 : 0, 0);
         y.dark(1, true);
-        lines(y, 1, 0, 3, 2, 0, 0, 3, 3, 0);
+        Towns.lines(y, 1, 0, 3, 2, 0, 0, 3, 3, 0);
         due.is("36 FEW without those that are out", y.check(0), -1);
         y.alter(2, 3, 2, 0);
         due.is("36 FEW of one with two left", y.check(0), 2);
@@ -365,10 +342,10 @@ public final class ProofsTest {
     }
 
     private static void checkRing() {
-        LampRound x = square();
-        lines(x, 1, 0, 1, 1, 1, 2, 5, 0, 0);
+        Desk x = Towns.litSquare(due);
+        Towns.lines(x, 1, 0, 1, 1, 1, 2, 5, 0, 0);
         due.is("36 RING that is open", x.check(0), 2);
-        lines(x, 1, 0, 1, 1, 1, 2, 1, 0, 2, 5, 0, 9);
+        Towns.lines(x, 1, 0, 1, 1, 1, 2, 1, 0, 2, 5, 0, 9);
         due.is("36 RING", x.check(0), 4);
         x.alter(3, 5, 2, 0);
         due.is("36 RING of any of it", x.check(0), 4);
@@ -376,29 +353,29 @@ public final class ProofsTest {
         due.is("36 RING of one outside", x.check(0), 3);
         x.alter(3, 5, -3, 0);
         due.is("36 RING of none", x.check(0), 3);
-        lines(x, 1, 0, 1, 1, 1, 2, 1, 0, 2, 1, 0, 3, 5, 0, 0);
+        Towns.lines(x, 1, 0, 1, 1, 1, 2, 1, 0, 2, 1, 0, 3, 5, 0, 0);
         due.is("36 RING with a tail", x.check(0), 4);
-        lines(x, 1, 0, 1, 1, 1, 2, 1, 2, 3, 1, 0, 3, 5, 0, 0);
+        Towns.lines(x, 1, 0, 1, 1, 1, 2, 1, 2, 3, 1, 0, 3, 5, 0, 0);
         due.is("36 RING of all", x.check(0), 4);
-        LampRound y = new LampRound();
+        Desk y = due.desk();
         for (int i = 0; i < 8; i++) y.lamp(i, 0, 0);
-        lines(y, 1, 0, 1, 1, 1, 2, 1, 2, 3, 1, 3, 4, 1, 4, 5, 1, 5, 6, 1, 0, 6, 5, 3, 0);
+        Towns.lines(y, 1, 0, 1, 1, 1, 2, 1, 2, 3, 1, 3, 4, 1, 4, 5, 1, 5, 6, 1, 0, 6, 5, 3, 0);
         due.is("36 RING of seven", y.check(0), 8);
     }
 
     private static void checkTwins() {
-        LampRound x = new LampRound();
+        Desk x = due.desk();
         x.lamp(0, 0, 0);
         x.lamp(1, 3, 0);
         x.lamp(2, 1, 0);
         x.lamp(3, 1, 1);
         x.lamp(4, 2, 0);
         x.lane(4, 3, 1);
-        lines(x, 6, 0, 2);
+        Towns.lines(x, 6, 0, 2);
         due.is("36 TWINS that aren't PARTED", x.check(0), 0);
-        lines(x, 1, 0, 2, 6, 0, 2);
+        Towns.lines(x, 1, 0, 2, 6, 0, 2);
         due.is("36 TWINS that are JOINED", x.check(0), 1);
-        lines(x, 1, 0, 2, 2, 0, 0, 6, 0, 2);
+        Towns.lines(x, 1, 0, 2, 2, 0, 0, 6, 0, 2);
         due.is("36 TWINS", x.check(0), -1);
         x.alter(2, 6, 2, 0);
         due.is("36 TWINS, the other way about", x.check(0), -1);
@@ -408,39 +385,39 @@ public final class ProofsTest {
         due.is("36 no lamp", x.check(0), 2);
         x.alter(2, 6, 77, 0);
         due.is("36 no lamp", x.check(0), 2);
-        lines(x, 1, 3, 4, 2, 0, 0, 6, 3, 4);
+        Towns.lines(x, 1, 3, 4, 2, 0, 0, 6, 3, 4);
         due.is("36 a corner's TWIN", x.check(0), -1);
-        lines(x, 1, 1, 3, 2, 0, 0, 6, 1, 3);
+        Towns.lines(x, 1, 1, 3, 2, 0, 0, 6, 1, 3);
         due.is("36 TWINS that are lit", x.check(0), -1);
         x.dark(1, true);
-        lines(x, 1, 0, 2, 2, 0, 0, 6, 1, 3);
+        Towns.lines(x, 1, 0, 2, 2, 0, 0, 6, 1, 3);
         due.is("36 one is out", x.check(0), 2);
     }
 
     private static void checkPrices() {
-        LampRound x = square();
+        Desk x = Towns.litSquare(due);
         // JOINED 1-3: 1-3 7, 1-2 3, 0-1 2, 0-2 5; PARTED 0-1: 1-2 3, 2-3 4, 0-2 5, 0-3 5.
-        lines(x, 1, 1, 3, 2, 0, 0, 2, 0, 0);
+        Towns.lines(x, 1, 1, 3, 2, 0, 0, 2, 0, 0);
         due.is("36 JOINED ones first", x.check(17), 2);
         due.is("36 JOINED ones first", x.check(18), 1);
-        lines(x, 1, 0, 1, 1, 0, 3, 2, 0, 0);
+        Towns.lines(x, 1, 0, 1, 1, 0, 3, 2, 0, 0);
         // 1-2 3, 2-3 4; 0-1 2, 0-3 5.
         due.is("36 JOINED ones of THE FIRST", x.check(14), 3);
         due.is("36 JOINED ones of THE FIRST", x.check(15), 2);
-        lines(x, 1, 0, 1, 3, 0, 0, 2, 0, 0);
+        Towns.lines(x, 1, 0, 1, 3, 0, 0, 2, 0, 0);
         x.alter(1, 2, 0, 0);
         due.is("36 PARTED ones are left out", x.check(14), -1);
-        lines(x, 1, 1, 2, 2, 0, 0, 2, 0, 0);
+        Towns.lines(x, 1, 1, 2, 2, 0, 0, 2, 0, 0);
         // PARTED 1-2: 2-3 4, 1-3 7, 0-1 2, 0-2 5.
         due.is("36 PARTED ones are left out", x.check(14), -1);
         due.is("36 too much for the JOINED case", x.check(15), 1);
         x.price(0, 9);
         due.is("36 prices of THE FIRST alone change nothing", x.check(14), -1);
         x.lamp(30, 0, 0);
-        lines(x, 2, 0, 0);
+        Towns.lines(x, 2, 0, 0);
         due.is("36 ENDLESS", x.check(Integer.MAX_VALUE), -1);
-        LampRound y = square();
-        lines(y, 1, 0, 1, 2, 0, 0, 1, 0, 2, 2, 0, 0, 2, 0, 0);
+        Desk y = Towns.litSquare(due);
+        Towns.lines(y, 1, 0, 1, 2, 0, 0, 1, 0, 2, 2, 0, 0, 2, 0, 0);
         due.is("36 THE FIRST has one pair only: ENDLESS", y.check(14), -1);
         y.lamp(20, 3, 0);
         y.dark(4, true);
@@ -452,12 +429,12 @@ public final class ProofsTest {
      * two pairs hang all together, as what is taken: the bound isn't ENDLESS.
      */
     private static void checkHangsTogetherByTheFirst() {
-        LampRound x = new LampRound();
+        Desk x = due.desk();
         for (int i = 0; i < 5; i++) {
             x.lane(39, i, i == 1 || i == 3 ? 1 : 2);
             x.lamp(i, 0, 0);
         }
-        lines(x, 1, 1, 3, 2, 0, 0, 1, 1, 4, 2, 0, 0, 1, 2, 3, 2, 0, 0, 1, 2, 4, 2, 0, 0, 2, 0, 0);
+        Towns.lines(x, 1, 1, 3, 2, 0, 0, 1, 1, 4, 2, 0, 0, 1, 2, 3, 2, 0, 0, 1, 2, 4, 2, 0, 0, 2, 0, 0);
         // 1-2 3, 3-4 3, 0-1 3, 0-3 3: 12.
         due.is("36 hangs together by THE FIRST", x.check(12), -1);
         due.is("36 hangs together by THE FIRST, n 13", x.check(13), 8);

@@ -32,7 +32,7 @@ public final class RoomTest {
 
     private static int dearestCalls(LampRound x) {
         int sum = 0;
-        for (int i = 0; i < 60; i++) {
+        for (int i = 0; i < 24; i++) {
             boolean out = i % 2 == 0;
             for (int l = 0; l < 4; l++) sum += x.dark(l, out);
             sum += x.open(i % 5, out) + x.least() + x.second() + x.with(5, 6, out) + x.better();

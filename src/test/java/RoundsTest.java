@@ -20,51 +20,19 @@ public final class RoundsTest {
         due.end();
     }
 
-    /**
-     * Crossings 0 to 3; ways 0-1 2, 1-2 3, 2-3 4, 0-3 5, 0-2 5, 1-3 7. The rounds: 0 1 2 3 has 14,
-     * 0 1 3 2 has 18, 0 2 1 3 has 20.
-     */
-    private static LampRound square() {
-        LampRound x = new LampRound();
-        x.lane(0, 1, 2);
-        x.lane(1, 2, 3);
-        x.lane(2, 3, 4);
-        x.lane(3, 0, 5);
-        x.lane(0, 2, 6);
-        return x;
-    }
-
-    private static LampRound litSquare() {
-        LampRound x = square();
-        for (int i = 0; i < 4; i++) x.lamp(i, 0, 0);
-        return x;
-    }
-
-    /** Crossing 39 in the middle, a lane of 1 to each of n others: all rounds have one length. */
-    private static LampRound star(int n) {
-        LampRound x = new LampRound();
-        for (int i = 0; i < n; i++) x.lane(39, i, 1);
-        return x;
-    }
-
-    private static void tell(LampRound x, int... lamps) {
-        x.clear();
-        for (int l : lamps) x.put(l);
-    }
-
     private static void least() {
-        LampRound x = litSquare();
-        tell(x, 2, 0);
+        Desk x = Towns.litSquare(due);
+        Towns.tell(x, 2, 0);
         due.is("17 least", x.least(), 14);
         due.round("17 the round", x, 0, 1, 2, 3);
-        LampRound y = square();
+        Desk y = Towns.square(due);
         y.lamp(0, 0, 0);
         y.lamp(2, 0, 0);
         y.lamp(1, 0, 0);
         y.lamp(3, 0, 0);
         due.is("17 least, other numbers", y.least(), 14);
         due.round("17 as it is written", y, 0, 2, 1, 3);
-        LampRound z = square();
+        Desk z = Towns.square(due);
         z.lamp(0, 0, 0);
         z.lamp(1, 0, 0);
         due.is("17 two lamps", z.least(), LampRound.NEVER);
@@ -76,11 +44,11 @@ public final class RoundsTest {
     }
 
     private static void leastOfEqualOnes() {
-        LampRound x = star(8);
+        Desk x = Towns.star(due, 8);
         for (int i = 0; i < 8; i++) x.lamp(i, 0, 0);
         due.is("17 all alike", x.least(), 16);
         due.round("17 the first such", x, 0, 1, 2, 3, 4, 5, 6, 7);
-        LampRound y = star(6);
+        Desk y = Towns.star(due, 6);
         for (int i = 0; i < 6; i++) y.lamp(i, i == 0 ? 3 : i == 5 ? 1 : 0, 1);
         y.dark(0, true);
         due.is("17 without the one that is out", y.least(), 10);
@@ -88,20 +56,20 @@ public final class RoundsTest {
     }
 
     private static void leastWithTwins() {
-        LampRound x = square();
+        Desk x = Towns.square(due);
         x.lamp(0, 0, 0);
         x.lamp(1, 0, 0);
         x.lamp(2, 0, 0);
         x.lamp(3, 1, 1);
         due.is("17 twins side by side", x.least(), 18);
         due.round("17 twins side by side", x, 0, 1, 3, 2);
-        LampRound y = square();
+        Desk y = Towns.square(due);
         y.lamp(0, 0, 0);
         y.lamp(1, 0, 0);
         y.lamp(2, 1, 0);
         y.lamp(3, 1, 1);
         due.is("17 two pairs of twins", y.least(), 18);
-        LampRound z = square();
+        Desk z = Towns.square(due);
         z.lamp(0, 0, 0);
         z.lamp(1, 3, 0);
         z.lamp(2, 0, 0);
@@ -115,19 +83,19 @@ public final class RoundsTest {
     }
 
     private static void leastNever() {
-        LampRound x = star(6);
+        Desk x = Towns.star(due, 6);
         for (int i = 0; i < 5; i++) x.lamp(i, i == 0 || i == 4 ? 0 : 1, 0);
-        tell(x, 4, 2);
+        Towns.tell(x, 4, 2);
         due.is("17 three twins of one", x.least(), LampRound.NEVER);
         due.round("17 NEVER: the told round stays", x, 4, 2);
-        LampRound y = star(3);
+        Desk y = Towns.star(due, 3);
         for (int i = 0; i < 3; i++) y.lamp(i, 0, 0);
         y.open(2, false);
-        tell(y, 1);
+        Towns.tell(y, 1);
         due.is("17 one is apart", y.least(), LampRound.NEVER);
         due.round("17 apart: the told round stays", y, 1);
-        due.is("17 none at all", new LampRound().least(), LampRound.NEVER);
-        LampRound z = star(6);
+        due.is("17 none at all", due.desk().least(), LampRound.NEVER);
+        Desk z = Towns.star(due, 6);
         z.lamp(0, 0, 0);
         z.lamp(1, 1, 0);
         z.lamp(2, 1, 1);
@@ -141,13 +109,13 @@ public final class RoundsTest {
     }
 
     private static void large() {
-        LampRound x = star(9);
+        Desk x = Towns.star(due, 9);
         for (int i = 0; i < 9; i++) x.lamp(i, i == 8 ? 3 : 0, 0);
         due.is("17 LARGE", x.least(), LampRound.LARGE);
         due.is("18 STATE ahead of LARGE", x.second(), LampRound.STATE);
         due.is("19 LARGE", x.with(0, 1, true), LampRound.LARGE);
         due.is("19 NUMBER ahead of LARGE", x.with(0, 0, true), LampRound.NUMBER);
-        tell(x, 0, 1, 2, 3, 4, 5, 6, 7, 8);
+        Towns.tell(x, 0, 1, 2, 3, 4, 5, 6, 7, 8);
         due.is("18 LARGE", x.second(), LampRound.LARGE);
         due.is("23 LARGE has a length", x.length(), 18);
         due.is("17 LARGE again", x.least(), LampRound.LARGE);
@@ -160,46 +128,46 @@ public final class RoundsTest {
     }
 
     private static void second() {
-        LampRound x = litSquare();
+        Desk x = Towns.litSquare(due);
         due.is("18 nothing is told", x.second(), LampRound.STATE);
-        tell(x, 0, 1, 2);
+        Towns.tell(x, 0, 1, 2);
         due.is("18 one is missing", x.second(), LampRound.STATE);
         x.least();
         due.is("18 the next best", x.second(), 18);
         due.round("18 the told round stays", x, 0, 1, 2, 3);
-        tell(x, 2, 1, 0, 3);
+        Towns.tell(x, 2, 1, 0, 3);
         due.is("18 the same one, written otherwise", x.second(), 18);
-        tell(x, 3, 1, 0, 2);
+        Towns.tell(x, 3, 1, 0, 2);
         due.is("18 another one is told", x.second(), 14);
         due.round("18 the told row stays as it stands", x, 3, 1, 0, 2);
-        LampRound y = star(4);
+        Desk y = Towns.star(due, 4);
         for (int i = 0; i < 4; i++) y.lamp(i, 0, 0);
         y.least();
         due.is("18 as short as the least", y.second(), 8);
-        LampRound z = square();
+        Desk z = Towns.square(due);
         for (int i = 0; i < 3; i++) z.lamp(i, 0, 0);
         z.least();
         due.is("18 of three there is one only", z.second(), LampRound.NEVER);
         z.lamp(3, 1, 1);
-        tell(z, 0, 1, 2, 3);
+        Towns.tell(z, 0, 1, 2, 3);
         due.is("18 the told one keeps no twins", z.second(), 18);
         z.least();
         due.is("18 keeps twins", z.second(), 20);
         z.open(0, false);
         z.open(3, false);
         z.open(4, false);
-        tell(z, 0, 1, 2, 3);
+        Towns.tell(z, 0, 1, 2, 3);
         due.is("18 apart", z.second(), LampRound.NEVER);
-        LampRound w = star(2);
+        Desk w = Towns.star(due, 2);
         w.lamp(0, 0, 0);
         w.lamp(1, 0, 0);
-        tell(w, 0, 1);
+        Towns.tell(w, 0, 1);
         due.is("18 fewer than three", w.second(), LampRound.STATE);
     }
 
     private static void with() {
-        LampRound x = litSquare();
-        tell(x, 3, 1);
+        Desk x = Towns.litSquare(due);
+        Towns.tell(x, 3, 1);
         due.is("19 side by side", x.with(0, 2, true), 18);
         due.is("19 the other way about", x.with(2, 0, true), 18);
         due.is("19 side by side", x.with(1, 3, true), 18);
@@ -211,7 +179,7 @@ public final class RoundsTest {
         due.is("19 no lamp", x.with(0, 4, true), LampRound.NUMBER);
         due.is("19 no lamp", x.with(-1, 0, true), LampRound.NUMBER);
         due.is("19 the same", x.with(2, 2, false), LampRound.NUMBER);
-        LampRound y = square();
+        Desk y = Towns.square(due);
         y.lamp(0, 0, 0);
         y.lamp(1, 0, 0);
         y.lamp(2, 3, 0);
@@ -227,7 +195,7 @@ public final class RoundsTest {
         y.open(0, false);
         y.open(1, false);
         due.is("19 apart", y.with(0, 1, true), LampRound.NEVER);
-        LampRound z = new LampRound();
+        Desk z = due.desk();
         z.lamp(0, 0, 0);
         z.lamp(1, 0, 0);
         z.lane(0, 1, 1);
@@ -235,7 +203,7 @@ public final class RoundsTest {
     }
 
     private static void putClearAt() {
-        LampRound x = litSquare();
+        Desk x = Towns.litSquare(due);
         due.is("20 no lamp", x.put(4), LampRound.NUMBER);
         due.is("20 no lamp", x.put(-1), LampRound.NUMBER);
         due.is("21 nothing", x.clear(), 0);
@@ -253,7 +221,7 @@ public final class RoundsTest {
         due.is("20 out", x.put(4), LampRound.STATE);
         x.dark(4, false);
         due.is("20 lit", x.put(4), 1);
-        LampRound y = new LampRound();
+        Desk y = due.desk();
         for (int i = 0; i < 12; i++) y.lamp(i, 0, 0);
         for (int i = 0; i < 12; i++) due.is("20 twelve", y.put(11 - i), i + 1);
         for (int i = 0; i < 12; i++) due.is("22 twelve", y.at(i), 11 - i);
@@ -261,65 +229,65 @@ public final class RoundsTest {
     }
 
     private static void length() {
-        LampRound x = litSquare();
+        Desk x = Towns.litSquare(due);
         due.is("23 nothing", x.length(), LampRound.STATE);
-        tell(x, 0, 1, 2);
+        Towns.tell(x, 0, 1, 2);
         due.is("23 one is missing", x.length(), LampRound.STATE);
         x.put(3);
         due.is("23 length", x.length(), 14);
-        tell(x, 1, 3, 2, 0);
+        Towns.tell(x, 1, 3, 2, 0);
         due.is("23 length", x.length(), 18);
         x.lamp(20, 3, 0);
-        tell(x, 0, 1, 2, 3, 4);
+        Towns.tell(x, 0, 1, 2, 3, 4);
         due.is("23 apart", x.length(), LampRound.APART);
         x.dark(4, true);
         due.is("23 nothing again", x.length(), LampRound.STATE);
-        tell(x, 0, 2, 1, 3);
+        Towns.tell(x, 0, 2, 1, 3);
         due.is("23 all that aren't out", x.length(), 20);
-        LampRound y = star(2);
+        Desk y = Towns.star(due, 2);
         y.lamp(0, 0, 0);
         y.lamp(1, 0, 0);
-        tell(y, 0, 1);
+        Towns.tell(y, 0, 1);
         due.is("23 fewer than three", y.length(), LampRound.STATE);
     }
 
     private static void keeps() {
-        LampRound x = square();
+        Desk x = Towns.square(due);
         x.lamp(0, 0, 0);
         x.lamp(1, 0, 0);
         x.lamp(2, 0, 0);
         x.lamp(3, 1, 1);
         due.is("24 nothing", x.keeps(), LampRound.STATE);
-        tell(x, 0, 1, 2, 3);
+        Towns.tell(x, 0, 1, 2, 3);
         due.is("24 twins apart", x.keeps(), 0);
-        tell(x, 0, 1, 3, 2);
+        Towns.tell(x, 0, 1, 3, 2);
         due.is("24 side by side", x.keeps(), 1);
-        tell(x, 3, 0, 2, 1);
+        Towns.tell(x, 3, 0, 2, 1);
         due.is("24 the last and the first are neighbours", x.keeps(), 1);
-        tell(x, 3, 0, 2);
+        Towns.tell(x, 3, 0, 2);
         due.is("24 one is missing", x.keeps(), LampRound.STATE);
-        LampRound y = new LampRound();
+        Desk y = due.desk();
         y.lamp(0, 0, 0);
         y.lamp(1, 0, 0);
-        tell(y, 0, 1);
+        Towns.tell(y, 0, 1);
         due.is("24 fewer than three", y.keeps(), LampRound.STATE);
         y.lamp(2, 3, 0);
         y.lamp(3, 1, 2);
-        tell(y, 0, 2, 1, 3);
+        Towns.tell(y, 0, 2, 1, 3);
         due.is("24 without ways", y.keeps(), 0);
         y.dark(2, true);
         y.lamp(4, 2, 0);
         y.lane(4, 0, 3);
-        tell(y, 4, 1, 0, 3);
+        Towns.tell(y, 4, 1, 0, 3);
         due.is("24 a corner's twin isn't beside it", y.keeps(), 0);
-        tell(y, 4, 0, 1, 3);
+        Towns.tell(y, 4, 0, 1, 3);
         due.is("24 a corner's twin is beside it", y.keeps(), 1);
     }
 
     private static void turn() {
-        LampRound x = litSquare();
+        Desk x = Towns.litSquare(due);
         due.is("25 STATE ahead of NUMBER", x.turn(-1, 9), LampRound.STATE);
-        tell(x, 0, 1, 2);
+        Towns.tell(x, 0, 1, 2);
         due.is("25 one is missing", x.turn(0, 1), LampRound.STATE);
         x.put(3);
         due.is("25 i below", x.turn(-1, 2), LampRound.NUMBER);
@@ -334,55 +302,55 @@ public final class RoundsTest {
         due.round("25 three", x, 0, 3, 2, 1);
         due.is("25 two", x.turn(1, 3), 1);
         due.round("25 two", x, 0, 3, 1, 2);
-        LampRound y = new LampRound();
+        Desk y = due.desk();
         for (int i = 0; i < 3; i++) y.lamp(i, 0, 0);
-        tell(y, 2, 1, 0);
+        Towns.tell(y, 2, 1, 0);
         due.is("25 without ways", y.turn(0, 2), 1);
         due.round("25 without ways", y, 2, 0, 1);
     }
 
     private static void better() {
-        LampRound x = litSquare();
+        Desk x = Towns.litSquare(due);
         due.is("26 nothing", x.better(), LampRound.STATE);
-        tell(x, 0, 2, 1, 3);
+        Towns.tell(x, 0, 2, 1, 3);
         due.is("26 once", x.better(), 1);
         due.round("26 once", x, 0, 1, 2, 3);
         due.is("26 no more", x.better(), 0);
         x.lamp(20, 0, 0);
-        tell(x, 0, 1, 2, 3, 4);
+        Towns.tell(x, 0, 1, 2, 3, 4);
         due.is("26 apart", x.better(), LampRound.APART);
         due.round("26 apart: it stays", x, 0, 1, 2, 3, 4);
-        LampRound y = star(5);
+        Desk y = Towns.star(due, 5);
         for (int i = 0; i < 5; i++) y.lamp(i, 0, 0);
-        tell(y, 0, 3, 1, 4, 2);
+        Towns.tell(y, 0, 3, 1, 4, 2);
         due.is("26 none is shorter", y.better(), 0);
         due.round("26 none is shorter", y, 0, 3, 1, 4, 2);
     }
 
     private static void betterWithTwins() {
-        LampRound x = square();
+        Desk x = Towns.square(due);
         x.lamp(0, 0, 0);
         x.lamp(1, 0, 0);
         x.lamp(2, 0, 0);
         x.lamp(3, 1, 1);
-        tell(x, 0, 2, 1, 3);
+        Towns.tell(x, 0, 2, 1, 3);
         due.is("26 keeps what it kept", x.better(), 1);
         due.round("26 keeps what it kept", x, 0, 2, 3, 1);
-        LampRound y = square();
+        Desk y = Towns.square(due);
         y.lamp(0, 0, 0);
         y.lamp(1, 0, 0);
         y.lamp(2, 0, 0);
         y.lamp(3, 1, 0);
         y.lane(3, 1, 1);
         // Now 1-3 has 1, 0-3 has 3: 0 1 2 3 has 12, 0 1 3 2 has 12, 0 2 1 3 has 12.
-        tell(y, 0, 1, 3, 2);
+        Towns.tell(y, 0, 1, 3, 2);
         due.is("26 all alike", y.better(), 0);
-        LampRound z = square();
+        Desk z = Towns.square(due);
         z.lamp(0, 0, 0);
         z.lamp(1, 0, 0);
         z.lamp(2, 1, 0);
         z.lamp(3, 1, 2);
-        tell(z, 0, 2, 1, 3);
+        Towns.tell(z, 0, 2, 1, 3);
         due.is("26 it did not keep them ahead of it", z.keeps(), 0);
         due.is("26 so it need not keep them", z.better(), 1);
         due.round("26 so it need not keep them", z, 0, 1, 2, 3);
@@ -391,10 +359,10 @@ public final class RoundsTest {
 
     /** On a line 0 - 1 - .. - 5 of lanes of 1, each way is the difference of the numbers. */
     private static void betterByIThenByJ() {
-        LampRound x = new LampRound();
+        Desk x = due.desk();
         for (int i = 0; i < 5; i++) x.lane(i, i + 1, 1);
         for (int i = 0; i < 6; i++) x.lamp(i, 0, 0);
-        tell(x, 0, 3, 1, 4, 2, 5);
+        Towns.tell(x, 0, 3, 1, 4, 2, 5);
         // 18: turn 0, 2 (0 1 3 4 2 5: 1 2 1 2 3 5 = 14), then 1, 3 leaves 14, 1, 4 (0 1 2 4 3 5: 12),
         // then 2, 4 (0 1 2 3 4 5: 10).
         due.is("26 length ahead of it", x.length(), 18);
