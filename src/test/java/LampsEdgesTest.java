@@ -73,6 +73,31 @@ public final class LampsEdgesTest {
         due.is("of two that are out the least number", x.twin(0), 1);
     }
 
+    @Says(promise = 0, value = "its TWIN is, of the other LAMPS that any WALK joins to it")
+    static void twoCornersMayBeEachOthersTwins(Due due) {
+        Desk x = due.desk();
+        x.lane(0, 1, 5);
+        x.lane(1, 2, 6);
+        x.lane(2, 3, 7);
+        x.lane(3, 0, 8);
+        x.lamp(0, 2, 0);
+        x.lamp(1, 2, 0);
+        x.lamp(2, 0, 0);
+        x.lamp(3, 1, 0);
+        due.is("0's", x.twin(0), 1);
+        due.is("1's", x.twin(1), 0);
+        due.is("bound on both sides", x.with(0, 1, false), LampRound.NEVER);
+        due.is("and by another's twin", x.with(0, 3, false), LampRound.NEVER);
+        due.is("least", x.least(), 26);
+        due.round("least", x, 0, 1, 2, 3);
+        Towns.tell(x, 0, 2, 1, 3);
+        due.is("not side by side", x.keeps(), 0);
+        Towns.lines(x, 1, 0, 1, 2, 0, 0, 6, 0, 1);
+        due.is("TWINS", x.check(0), -1);
+        Towns.lines(x, 1, 0, 1, 2, 0, 0, 6, 1, 0);
+        due.is("TWINS the other way about", x.check(0), -1);
+    }
+
     @Says(promise = 0, value = "of several the least number")
     static void ofSeveralTwinsTheLeastNumber(Due due) {
         Desk x = Towns.star(due, 12);

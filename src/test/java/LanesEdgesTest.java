@@ -633,6 +633,21 @@ public final class LanesEdgesTest {
     }
 
     @Says(promise = 11, value = "CROSSING i (from 0 on, a first) of THE WALK from a to b")
+    static void aWalkByAHundredLanes(Due due) {
+        Desk x = due.desk();
+        // Of each crossing's lanes to the next the last one is shortest; the last lane of all leads to 39.
+        for (int i = 0; i < 99; i++) x.lane(i / 3, i / 3 + 1, 9 - i % 3);
+        x.lane(33, 39, 5);
+        due.is("a hundred", x.many(0), 100);
+        due.is("way", x.way(0, 39), 33 * 7 + 5);
+        for (int i = 0; i <= 33; i++) due.is("there " + i, x.walk(0, 39, i), i);
+        due.is("by the last lane", x.walk(0, 39, 34), 39);
+        due.is("behind it", x.walk(0, 39, 35), -1);
+        due.is("back by the last lane", x.walk(39, 0, 1), 33);
+        due.is("back by the first lanes", x.walk(39, 0, 34), 0);
+    }
+
+    @Says(promise = 11, value = "CROSSING i (from 0 on, a first) of THE WALK from a to b")
     static void theFirstAndTheLastOfTheWalk(Due due) {
         Desk x = due.desk();
         x.lane(7, 3, 2);

@@ -111,6 +111,8 @@ public final class ProofsEdgesTest {
         x.price(11, -1);
         // All pairs of 11 have 1 now: by the lesser one.
         taken(due, "those of 11 first", x, 27, 43, 59, 75, 91, 107, 123, 139, 155, 171, 11, 1);
+        // Eleven of 1, one of 2, less twice -1.
+        due.is("they hang together", x.bound(), 15);
     }
 
     @Says(promise = 0, value = "pairs of LAMPS other than THE FIRST that aren't PARTED are gone over, JOINED ones ahead of others")
@@ -426,6 +428,30 @@ public final class ProofsEdgesTest {
         due.is("all five", x.check(0), 5);
     }
 
+    @Says(promise = 0, value = "a and all LAMPS to which one comes from it by JOINED pairs have just two JOINED pairs each")
+    static void aRingOfTheLastLamp(Due due) {
+        Desk x = Towns.litStar(due, 12);
+        Towns.lines(x, PART, 0, 11, PART, 10, 11, RING, 11, 0);
+        due.is("its neighbours have one pair each", x.check(0), 2);
+        Towns.lines(x, PART, 0, 11, PART, 10, 11, PART, 0, 10, RING, 11, 0);
+        due.is("three", x.check(0), 4);
+        for (int i = 0; i < 2; i++) {
+            x.alter(3, RING, 10 * i, 0);
+            due.is("from another of the three", x.check(0), 4);
+        }
+        x.cut(0);
+        for (int i = 1; i < 11; i++) x.line(PART, i, i + 1);
+        x.line(RING, 6, 0);
+        due.is("a chain of eleven", x.check(0), 10);
+        x.alter(10, PART, 1, 11);
+        x.line(RING, 6, 0);
+        due.is("a ring of eleven", x.check(0), 12);
+        x.alter(11, RING, 11, 0);
+        due.is("a ring of eleven from the last", x.check(0), 12);
+        x.alter(11, RING, 0, 0);
+        due.is("not from the twelfth", x.check(0), 11);
+    }
+
     @Says(promise = 0, value = "and they are not all LAMPS that aren't OUT")
     static void aRingWithoutThoseThatAreOut(Due due) {
         Desk x = Towns.star(due, 4);
@@ -579,6 +605,11 @@ public final class ProofsEdgesTest {
         // All three pairs JOINED: no ring that isn't all, no pair to part.
         due.is("one more", x.prove(7), LampRound.SPENT);
         due.lines("the told PROOF stays", x, PRICES, 0, 0, FEW, 1, 2);
+        Desk y = Towns.litStar(due, 12);
+        due.is("its rounds", y.prove(24), 1);
+        // It comes to a round of all twelve, all other pairs PARTED: no pair of 66 is left.
+        due.is("one more", y.prove(25), LampRound.SPENT);
+        due.lines("the told PROOF stays", y, PRICES, 0, 0);
     }
 
     @Says(promise = 0, value = "a 401st LINE would be written")

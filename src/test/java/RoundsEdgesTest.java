@@ -109,8 +109,12 @@ public final class RoundsEdgesTest {
         due.is("second", x.second(), LampRound.NEVER);
         x.dark(4, true);
         due.is("that one is out", x.least(), 8);
-        x.open(0, false);
-        due.is("a lane is shut", x.least(), LampRound.NEVER);
+        for (int lane = 0; lane < 4; lane++) {
+            x.open(lane, false);
+            due.is("lamp " + lane + " is apart", x.least(), LampRound.NEVER);
+            x.open(lane, true);
+            due.is("lamp " + lane + " isn't", x.least(), 8);
+        }
     }
 
     @Says(promise = 0, value = "It KEEPS TWINS if each LAMP that isn't OUT and has a TWIN that isn't OUT is its neighbour.")
@@ -340,7 +344,7 @@ public final class RoundsEdgesTest {
     @Says(promise = 18, value = "The least length of a ROUND that KEEPS TWINS and is another one than THE TOLD ROUND, which stays")
     static void secondIsAnotherThanTheToldOne(Due due) {
         Desk x = Towns.litSquare(due);
-        int[][] same = {{0, 1, 2, 3}, {1, 2, 3, 0}, {3, 2, 1, 0}, {2, 1, 0, 3}};
+        int[][] same = {{0, 1, 2, 3}, {1, 2, 3, 0}, {3, 2, 1, 0}, {2, 1, 0, 3}, {3, 0, 1, 2}, {1, 0, 3, 2}, {0, 3, 2, 1}};
         for (int[] told : same) {
             Towns.tell(x, told);
             due.is("the same round from " + told[0], x.second(), 18);
@@ -351,6 +355,44 @@ public final class RoundsEdgesTest {
         Desk y = twinSquare(due);
         Towns.tell(y, 0, 1, 2, 3);
         due.is("what is told keeps no twins", y.second(), 18);
+    }
+
+    @Says(promise = 18, value = "is another one than THE TOLD ROUND")
+    static void secondForgetsWhatWasToldAhead(Due due) {
+        Desk x = Towns.square(due);
+        for (int i = 0; i < 4; i++) x.lamp(i == 0 ? 9 : i - 1, i == 0 ? 3 : 0, 0);
+        x.lamp(3, 0, 0);
+        x.lane(9, 0, 1);
+        Towns.tell(x, 1, 2, 3, 4, 0);
+        x.dark(0, true);
+        // Lamps 1 to 4 of the square; 0 stood behind them, and is out.
+        Towns.tell(x, 1, 2, 3, 4);
+        due.is("another than 1 2 3 4", x.second(), 18);
+        Towns.tell(x, 4, 3, 1, 2);
+        due.is("another than 1 2 4 3", x.second(), 14);
+    }
+
+    @Says(promise = 17, value = "The least length of a ROUND that KEEPS TWINS; that ROUND (the first such) becomes THE TOLD ROUND.")
+    static void leastForgetsWhatWasAskedAhead(Due due) {
+        Desk x = Towns.litSquare(due);
+        due.is("least", x.least(), 14);
+        due.is("second", x.second(), 18);
+        due.is("least again, though second() shunned it", x.least(), 14);
+        due.is("with, as well", x.with(0, 1, true), 14);
+        due.is("not side by side", x.with(0, 1, false), 20);
+        due.is("least, though with() forbade it", x.least(), 14);
+        due.is("side by side", x.with(0, 2, true), 18);
+        due.is("least, though with() bade another", x.least(), 14);
+        due.is("second again", x.second(), 18);
+        Desk y = Towns.star(due, 12);
+        for (int i = 0; i < 12; i++) y.lamp(i, i < 11 ? 3 : 0, 0);
+        for (int i = 0; i < 7; i++) y.dark(i, true);
+        due.is("of the last", y.with(11, 7, true), 10);
+        due.is("not of the last", y.with(11, 10, false), 10);
+        due.is("least", y.least(), 10);
+        due.round("the first of all", y, 7, 8, 9, 10, 11);
+        due.is("of the last two", y.with(10, 11, true), 10);
+        due.is("neither of the first", y.with(7, 11, false), 10);
     }
 
     @Says(promise = 18, value = "STATE: THE TOLD ROUND isn't all LAMPS that aren't OUT, or these are fewer than three; LARGE; NEVER.")
