@@ -48,8 +48,8 @@ public final class LampRound {
     private static final int TWINS = 6;
 
     private static final int NONE = -1;
-    private static final int NO_ANSWER = Integer.MIN_VALUE;
-    private static final long NO_CELL = Long.MAX_VALUE;
+    private static final int NO_ANSWER = 1 << 31;
+    private static final long NO_CELL = ~(1L << 63);
     private static final long ENDLESS = 1L << 62;
 
     /** Stands for a WAY that isn't there: far above any WAY, far below what overflows when added to. */
@@ -950,7 +950,7 @@ public final class LampRound {
 
     /** Looks for the first of the shortest ROUNDS that keep what must be neighbours and what mustn't. */
     private static final class Search {
-        private static final int NOTHING = Integer.MAX_VALUE;
+        private static final int NOTHING = ~(1 << 31);
 
         private final Lamps lamps;
         private final int[] musts = new int[LAMPS];
@@ -1079,14 +1079,6 @@ public final class LampRound {
             Arrays.fill(parted, 0);
             depth = 0;
             isOver = false;
-        }
-
-        boolean isJoined(int a, int b) {
-            return isIn(joined[a], b);
-        }
-
-        boolean isParted(int a, int b) {
-            return isIn(parted[a], b);
         }
 
         boolean isFree(int a, int b) {
@@ -1262,7 +1254,7 @@ public final class LampRound {
         private boolean mayTake(int k, boolean ofJoined) {
             int a = lesserOf(pairAt(k));
             int b = greaterOf(pairAt(k));
-            return present.isJoined(a, b) == ofJoined && !present.isParted(a, b)
+            return isIn(present.joined[a], b) == ofJoined && !isIn(present.parted[a], b)
                     && pricedAt(k) != UNPRICED;
         }
 

@@ -8,12 +8,13 @@ import java.util.regex.Pattern;
 public final class LanguageTest {
     private static final Due due = new Due("LanguageTest");
     private static final int LONGEST_METHOD = 60;
+    private static final int DEEPEST = 8;
 
     private static final String[] NOT_THERE = {
         "\\bthrow\\b", "\\btry\\b", "\\bcatch\\b", "\\bsynchronized\\b", "\\bassert\\b", "->", "::",
         "\\bpackage\\b", "\\bSystem\\.(?!arraycopy\\b)", "\\bThread\\b", "Exact\\b", "\\bRandom\\b",
         "\\bArrays\\.(?!(fill|copyOf|copyOfRange)\\b)", "\\bimport (?!java\\.util\\.Arrays;)",
-        "\\bstatic \\{", "\\bObject\\b", "\\bhashCode\\b", "\\btoString\\b", "\\bequals\\b", "[^\\x00-\\x7f]"};
+        "\\bstatic \\{", "_VALUE\\b", "\\bObject\\b", "\\bhashCode\\b", "\\btoString\\b", "\\bequals\\b", "[^\\x00-\\x7f]"};
 
     public static void main(String[] args) throws IOException {
         String text = Files.readString(Path.of(args.length > 0 ? args[0] : "src/main/java/LampRound.java"));
@@ -24,6 +25,9 @@ public final class LanguageTest {
         }
         staticFieldsAreFinal(code);
         methodsAreShort(code);
+        CallDepth calls = new CallDepth(code);
+        due.is("language: methods were found", calls.methods() > 100 ? 1 : 0, 1);
+        if (calls.deepest() > DEEPEST) due.fault("language: calls go deeper than " + DEEPEST + ": " + calls.deepestPath());
         due.end();
     }
 
