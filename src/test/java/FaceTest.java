@@ -31,6 +31,8 @@ public final class FaceTest {
         constructor();
         methods();
         classesInside();
+        fieldsAreFew(LampRound.class);
+        for (Class<?> c : LampRound.class.getDeclaredClasses()) fieldsAreFew(c);
         due.end();
     }
 
@@ -77,6 +79,13 @@ public final class FaceTest {
         }
         privateNames.retainAll(publicNames);
         due.is("face: private methods with a public one's name", privateNames.size(), 0);
+    }
+
+    /** LANGUAGE.md, rule 11: some twenty fields beside its constants. */
+    private static void fieldsAreFew(Class<?> c) {
+        int fields = 0;
+        for (Field f : c.getDeclaredFields()) if (!Modifier.isStatic(f.getModifiers())) fields++;
+        due.is("face: fields of " + c.getName(), fields <= 20 ? 1 : 0, 1);
     }
 
     private static void classesInside() {

@@ -132,6 +132,21 @@ public final class LanesEdgesTest {
         due.is("the way", x.way(3, 4), 8);
     }
 
+    @Says(promise = 0, value = "and is OPEN or SHUT.")
+    static void aLaneIsOpenOrShut(Due due) {
+        Desk x = lanes(due, 3);
+        x.open(1, false);
+        for (int lane = 0; lane < 3; lane++) due.is("one is shut, lane " + lane, x.about(lane, 3), lane == 1 ? 0 : 1);
+        for (int what = 0; what < 3; what++) {
+            int was = x.about(1, what);
+            x.open(1, true);
+            due.is("the rest stays, what " + what, x.about(1, what), was);
+            x.open(1, false);
+        }
+        x.open(1, true);
+        for (int lane = 0; lane < 3; lane++) due.is("all are open, lane " + lane, x.about(lane, 3), 1);
+    }
+
     @Says(promise = 2, value = "A LANE comes, OPEN: its number.")
     static void aLaneComesOpen(Due due) {
         Desk x = lanes(due, 1);
@@ -586,6 +601,28 @@ public final class LanesEdgesTest {
         x.lane(0, 1, 1);
         due.is("with lanes", x.way(0, 0), 0);
         due.is("none to another", x.way(0, 2), LampRound.APART);
+    }
+
+    @Says(promise = 0, value = "WAY of two CROSSINGS is the least sum of LENGTHS of a WALK from the one to the other")
+    static void theWayIsTheLeastSum(Due due) {
+        Desk x = due.desk();
+        x.lane(0, 9, 10);
+        x.lane(0, 1, 4);
+        x.lane(9, 1, 6);
+        due.is("two lanes are as short as one", x.way(0, 9), 10);
+        x.lane(1, 9, 5);
+        due.is("two lanes are shorter than one", x.way(0, 9), 9);
+        for (int i = 10; i < 17; i++) x.lane(i == 10 ? 0 : i, i == 16 ? 9 : i + 1, 1);
+        due.is("seven lanes are shorter than two", x.way(0, 9), 7);
+        due.is("and back", x.way(9, 0), 7);
+        x.lane(9, 0, 6);
+        due.is("a lane that comes later", x.way(0, 9), 6);
+        x.row(0, 1, 1);
+        x.lay(0, 0, 1, 0);
+        due.is("a lane that is made shorter", x.way(0, 9), 1);
+        x.cell(0, 0, 1000);
+        x.lay(0, 0, 1, 0);
+        due.is("a lane that is made longer", x.way(0, 9), 6);
     }
 
     @Says(promise = 0, value = "A WALK goes from CROSSING to CROSSING by OPEN LANES")

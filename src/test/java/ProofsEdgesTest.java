@@ -93,6 +93,23 @@ public final class ProofsEdgesTest {
         due.is("and when it is lit", x.of(4, 4), 5);
     }
 
+    @Says(promise = 0, value = "PRICED is the WAY of two LAMPS and both their PRICES.")
+    static void pricedIsTheWayAndBothPrices(Due due) {
+        Desk x = Towns.litSquare(due);
+        taken(due, "by the ways alone", x, 18, 35, 1, 2);
+        x.price(1, 2);
+        // 1-2 5, 2-3 4, 1-3 9; 0-1 4, 0-2 5, 0-3 5: 18 less 4.
+        taken(due, "2-3 ahead of 1-2, by one price", x, 35, 18, 1, 2);
+        due.is("the bound", x.bound(), 14);
+        x.price(3, 2);
+        // 1-2 5, 2-3 6, 1-3 11; 0-1 4, 0-2 5, 0-3 7: 20 less 8.
+        taken(due, "1-2 ahead of 2-3, by both prices", x, 18, 35, 1, 2);
+        due.is("the bound", x.bound(), 12);
+        x.price(0, -3);
+        // Of THE FIRST: 0-1 1, 0-2 2; 14 less twice 1.
+        due.is("THE FIRST has one, too", x.bound(), 12);
+    }
+
     @Says(promise = 0, value = "THE FIRST is the least LAMP that isn't OUT.")
     static void theFirstIsTheLeastThatIsNotOut(Due due) {
         Desk x = Towns.star(due, 5);
@@ -115,7 +132,7 @@ public final class ProofsEdgesTest {
         due.is("they hang together", x.bound(), 15);
     }
 
-    @Says(promise = 0, value = "pairs of LAMPS other than THE FIRST that aren't PARTED are gone over, JOINED ones ahead of others")
+    @Says(promise = 0, value = "THE TREE of a CASE: pairs of LAMPS other than THE FIRST that aren't PARTED are gone over, JOINED ones ahead of others")
     static void joinedPairsAreTakenAheadOfCheaperOnes(Due due) {
         Desk x = Towns.litSquare(due);
         Towns.lines(x, PART, 1, 3, PRICES, 0, 0, PRICES, 0, 0);
@@ -213,7 +230,7 @@ public final class ProofsEdgesTest {
         taken(due, "1-2, 1-3, not 2-3", x, 18, 19, 52, 1, 2);
     }
 
-    @Says(promise = 0, value = "the sum of PRICED of what was taken, less twice all PRICES of LAMPS that aren't OUT")
+    @Says(promise = 0, value = "THE BOUND of the CASE: the sum of PRICED of what was taken, less twice all PRICES of LAMPS that aren't OUT")
     static void thePriceOfOneThatIsOutCountsNothing(Due due) {
         Desk x = Towns.litSquare(due);
         x.lamp(10, 3, 0);
@@ -303,7 +320,48 @@ public final class ProofsEdgesTest {
         prices(due, "a step", x, 0, 9, 0, -1, -1, -1, -1, -1, -1, -1, -1, -1);
     }
 
+    @Says(promise = 0, value = {"TO CLIMB by a step: by THE TREE of the CASE without pairs", "each LAMP's PRICE that isn't OUT becomes higher"})
+    static void whatAStepLeavesOut(Due due) {
+        Desk x = Towns.litSquare(due);
+        x.lamp(10, 3, 0);
+        x.price(4, 50);
+        x.dark(4, true);
+        Towns.lines(x, PART, 1, 3, PART, 0, 3, PART, 0, 2);
+        due.is("a step", x.climb(1), 1);
+        // 1-2, 2-3, 0-1, 0-2 are taken, whatever the told PROOF joins.
+        prices(due, "one that is out keeps its price", x, 0, 0, 1, -1, 50);
+    }
+
     // ---- proofs
+
+    @Says(promise = 0, value = "A CASE has two sets of pairs of LAMPS that aren't OUT: JOINED ones and PARTED ones.")
+    static void aCaseHasNoPairOfOneThatIsOut(Due due) {
+        Desk x = Towns.star(due, 5);
+        for (int i = 0; i < 5; i++) x.lamp(i, i == 4 ? 3 : 0, 0);
+        Towns.lines(x, PART, 0, 1, PART, 1, 4, PRICES, 0, 0, PRICES, 0, 0, PART, 1, 4, PRICES, 0, 0, PRICES, 0, 0);
+        due.is("1-4 in both cases", x.check(10), -1);
+        x.dark(4, true);
+        due.is("4 is out: no pair of it", x.check(8), 1);
+        x.dark(4, false);
+        due.is("4 is lit again", x.check(10), -1);
+    }
+
+    @Says(promise = 0, value = "A PROOF of a length n for a CASE is a row of LINES, op a b; it begins with one of these:")
+    static void aProofIsARowOfLines(Due due) {
+        Desk x = townOfAllLines(due, 0);
+        int lines = x.prove(24);
+        for (int n = 0; n < lines; n++) {
+            x.prove(24);
+            x.cut(n);
+            due.is("its first " + n + " end too soon", x.check(24), n);
+        }
+        due.is("all of them", x.prove(24), lines);
+        due.is("right", x.check(24), -1);
+        for (int op = PART; op <= TWINS; op++) {
+            Towns.lines(x, op, 0, 1);
+            due.is("op " + op + " at the CASE without pairs", x.check(21), op == PART ? 1 : op == PRICES ? -1 : 0);
+        }
+    }
 
     @Says(promise = 0, value = "1 PART a b: a < b, both not OUT, the pair neither JOINED nor PARTED")
     static void aPartThatCannotStand(Due due) {
@@ -581,7 +639,7 @@ public final class ProofsEdgesTest {
         due.is("one behind it", x.check(0), 133);
     }
 
-    @Says(promise = 0, value = "at a CASE, the first of these that can stand is written: TWINS a b with the least a, then the least b; FEW with the least a; MANY with the least a; RING with the least a; PRICES; else PART of the pair")
+    @Says(promise = 0, value = "TO PROVE n: at a CASE, the first of these that can stand is written: TWINS a b with the least a, then the least b; FEW with the least a; MANY with the least a; RING with the least a; PRICES; else PART of the pair")
     static void aProofWithEachKindOfLine(Due due) {
         Desk x = townOfAllLines(due, 0);
         due.is("the tree", x.bound(), 21);

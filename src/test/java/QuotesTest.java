@@ -3,7 +3,7 @@ import java.lang.reflect.Method;
 import java.util.ArrayList;
 import java.util.List;
 
-/** No sentence of a promise is without a test: what no test quotes of it is but joining words. */
+/** No sentence of Terms or of a promise is without a test: what no test quotes of it is but joining words. */
 public final class QuotesTest {
     private static final Class<?>[] TESTS = {
         LanesEdgesTest.class, LampsEdgesTest.class, RoundsEdgesTest.class, ProofsEdgesTest.class};
@@ -11,11 +11,23 @@ public final class QuotesTest {
     public static void main(String[] args) throws IOException {
         Due due = new Due("QuotesTest");
         Document document = new Document();
+        allIsQuoted(due, "Terms", terms(document.section(0)), 0);
         for (int promise = 1; promise <= Document.PROMISES; promise++) {
-            String left = unquoted(document.section(promise), quotesOf(promise));
-            if (!left.isEmpty()) due.fault("promise " + promise + " has no test for: " + left);
+            allIsQuoted(due, "promise " + promise, document.section(promise), promise);
         }
         due.end();
+    }
+
+    private static void allIsQuoted(Due due, String what, String section, int promise) {
+        String left = unquoted(section, quotesOf(promise));
+        if (!left.isEmpty()) due.fault(what + ": no test for: " + left);
+    }
+
+    /** Terms 1 to 4; RefusalsTest and FaceTest hold what stands behind them. */
+    private static String terms(String section) {
+        int from = section.indexOf("## Terms");
+        int to = section.indexOf("A call that is refused");
+        return from < 0 || to < from ? section : section.substring(from, to);
     }
 
     private static List<String> quotesOf(int promise) {
@@ -38,8 +50,9 @@ public final class QuotesTest {
         }
         StringBuilder left = new StringBuilder();
         for (int k = 0; k < quoted.length; k++) left.append(quoted[k] ? ' ' : section.charAt(k));
-        // The heading and the call's head are no sentences.
-        return left.toString().replaceAll("^Promise \\d+: [a-zA-Z ]*?(`[^`]*`|(?= {3}))", "")
+        // Headings, the call's head and the numbers of Terms are no sentences.
+        return left.toString().replaceAll("^## Terms|(?<= )[1-4](?=\\.)", "")
+                .replaceAll("^Promise \\d+: [a-zA-Z ]*?(`[^`]*`|(?= {3}))", "")
                 .replaceAll("\\bor\\b|\\band\\b|[,;:.]", " ").trim();
     }
 }
